@@ -1,0 +1,45 @@
+/** Counts the answers that are not as due, and ends the test with exit code 1 if there was one. */
+final class Check {
+    private static final int SHOWN = 20;
+    private static int made = 0;
+    private static int wrong = 0;
+
+    private Check() {
+    }
+
+    static void same(String what, long got, long want) {
+        made++;
+        if (got != want) {
+            tell(what + " answered " + got + ", due is " + want);
+        }
+    }
+
+    static void holds(String what, boolean held) {
+        made++;
+        if (!held) {
+            tell(what);
+        }
+    }
+
+    private static void tell(String text) {
+        wrong++;
+        if (wrong <= SHOWN) {
+            System.out.println(text);
+        }
+    }
+
+    /** The four answers that tell what the last run left. */
+    static void left(String what, SafeClosures x, int kind, int value, int calls, int peak) {
+        same(what + ": resultKind()", x.resultKind(), kind);
+        same(what + ": resultValue()", x.resultValue(), value);
+        same(what + ": callsUsed()", x.callsUsed(), calls);
+        same(what + ": peakLive()", x.peakLive(), peak);
+    }
+
+    static void end() {
+        System.out.println(made + " checks, " + wrong + " not as due");
+        if (made == 0 || wrong != 0) {
+            System.exit(1);
+        }
+    }
+}
