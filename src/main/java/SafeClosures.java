@@ -78,8 +78,9 @@ public final class SafeClosures {
     private int peak;
 
     // The machine's state: EVAL(current, env) or RETURN(value). A value is an int or a closure's slot.
-    // A mask of closures has bit i set where value i of its row is a slot. Bits and values of
-    // variables that the work ahead does not mention may be stale, so every use masks them off.
+    // A mask of closures has bit i set where value i of its row is a slot. What env holds for a variable
+    // that the work ahead does not mention may be a slot taken anew since, so nothing saves or reaches it
+    // without masking by free variables.
     private int status;
     private boolean evaluating;
     private int current;

@@ -1,6 +1,7 @@
 /** Promises 1 to 9, 12 and 16: construction, the push methods, clear and freeVars. */
 public final class BuildTest {
     private static final int R = SafeClosures.REFUSED;
+    private static final int OK = SafeClosures.OK;
     private static final int NONE = SafeClosures.KIND_NONE;
     private static final int INT = SafeClosures.KIND_INT;
     private static final int CLOSURE = SafeClosures.KIND_CLOSURE;
@@ -26,6 +27,7 @@ public final class BuildTest {
         pushLetrecTwo();
         letrecNeedsLambdas();
         fullTable();
+        fullTableOfLambdas();
         pushesKeepTheResult();
         refusedPushesKeepTheStack();
         clear();
@@ -76,7 +78,7 @@ public final class BuildTest {
         int[] kept = {2, 2, 2, 2, 2, 3, 17, 31, 32, 32, 32, 32};
         for (int i = 0; i < given.length; i++) {
             SafeClosures most = Source.object(100, given[i], 32, chain(kept[i] - 2));
-            Check.same("1 liveLimit " + given[i] + " reached", most.run(), SafeClosures.OK);
+            Check.same("1 liveLimit " + given[i] + " reached", most.run(), OK);
             Check.same("1 liveLimit " + given[i] + " reached: peakLive()", most.peakLive(), kept[i]);
             SafeClosures over = Source.object(100, given[i], 32, chain(kept[i] - 1));
             Check.same("1 liveLimit " + given[i] + " exceeded", over.run(), SafeClosures.ERR_MEMORY);
@@ -96,7 +98,7 @@ public final class BuildTest {
             // A turn pushes RIGHT, CALL and LEFT above the waiting RIGHT frames of the turns before it.
             int turns = kept[i] - 2;
             SafeClosures most = Source.object(100, 32, given[i], sum(turns));
-            Check.same("1 depthLimit " + given[i] + " reached", most.run(), SafeClosures.OK);
+            Check.same("1 depthLimit " + given[i] + " reached", most.run(), OK);
             Check.same("1 depthLimit " + given[i] + " reached: value", most.resultValue(), turns);
             SafeClosures over = Source.object(100, 32, given[i], sum(turns + 1));
             Check.same("1 depthLimit " + given[i] + " exceeded", over.run(), SafeClosures.ERR_DEPTH);
@@ -128,7 +130,7 @@ public final class BuildTest {
             SafeClosures x = plain();
             Check.same("2 pushNum(" + k + ")", x.pushNum(k), 0);
             Check.same("2 NUM " + k + ": freeVars(0)", x.freeVars(0), 0);
-            Check.same("2 NUM " + k + ": run()", x.run(), SafeClosures.OK);
+            Check.same("2 NUM " + k + ": run()", x.run(), OK);
             Check.left("2 NUM " + k, x, INT, k, 0, 0);
         }
         SafeClosures x = plain();
@@ -164,16 +166,16 @@ public final class BuildTest {
             Check.same("4 empty stack: pushLam(" + v + ")", x.pushLam(v), R);
             x.pushVar(v);
             Check.same("4 pushLam(" + v + ")", x.pushLam(v), 1);
-            Check.same("4 run()", x.run(), SafeClosures.OK);
+            Check.same("4 run()", x.run(), OK);
             Check.left("4 LAM " + v, x, CLOSURE, 1, 0, 1);
-            Check.same("4 callResult(77)", x.callResult(77), SafeClosures.OK);
+            Check.same("4 callResult(77)", x.callResult(77), OK);
             Check.left("4 LAM " + v + " called", x, INT, 77, 1, 0);
         }
         for (int v : NO_VARIABLES) {
             SafeClosures x = plain();
             x.pushNum(6);
             Check.same("4 pushLam(" + v + ")", x.pushLam(v), R);
-            Check.same("4 refused keeps the stack: run()", x.run(), SafeClosures.OK);
+            Check.same("4 refused keeps the stack: run()", x.run(), OK);
             Check.same("4 refused keeps the stack: resultValue()", x.resultValue(), 6);
             Check.same("4 refused counts no index", x.pushLam(0), 1);
         }
@@ -197,7 +199,7 @@ public final class BuildTest {
         x.pushLam(1);
         x.pushNum(8);
         Check.same("5 pushApp()", x.pushApp(), 3);
-        Check.same("5 pops both: run()", x.run(), SafeClosures.OK);
+        Check.same("5 pops both: run()", x.run(), OK);
         Check.left("5 f is below a", x, INT, 8, 1, 1);
         SafeClosures three = plain();
         three.pushNum(1);
@@ -218,7 +220,7 @@ public final class BuildTest {
             Check.same("6 one item", x.pushPrim(op), R);
             x.pushNum(3);
             Check.same("6 pushPrim(" + op + ")", x.pushPrim(op), 2);
-            Check.same("6 pops both: run()", x.run(), SafeClosures.OK);
+            Check.same("6 pops both: run()", x.run(), OK);
             int[] due = {10, 4, 21, 0, 0};
             Check.left("6 operator " + op, x, INT, due[op], 0, 0);
         }
@@ -251,7 +253,7 @@ public final class BuildTest {
             x.pushNum(10);
             x.pushNum(20);
             Check.same("7 pushIf()", x.pushIf(), 3);
-            Check.same("7 pops all: run()", x.run(), SafeClosures.OK);
+            Check.same("7 pops all: run()", x.run(), OK);
             Check.left("7 if " + test, x, INT, test != 0 ? 10 : 20, 0, 0);
         }
         SafeClosures four = plain();
@@ -273,7 +275,7 @@ public final class BuildTest {
             Check.same("8 one item", x.pushLet(v), R);
             x.pushVar(v);
             Check.same("8 pushLet(" + v + ")", x.pushLet(v), 2);
-            Check.same("8 pops both: run()", x.run(), SafeClosures.OK);
+            Check.same("8 pops both: run()", x.run(), OK);
             Check.left("8 LET " + v, x, INT, 12, 0, 0);
         }
         for (int v : NO_VARIABLES) {
@@ -282,7 +284,7 @@ public final class BuildTest {
             x.pushVar(0);
             Check.same("8 pushLet(" + v + ")", x.pushLet(v), R);
             Check.same("8 refused counts no index", x.pushLet(0), 2);
-            Check.same("8 refused keeps the stack", x.run(), SafeClosures.OK);
+            Check.same("8 refused keeps the stack", x.run(), OK);
         }
         SafeClosures x = plain();
         x.pushNum(40);
@@ -304,7 +306,7 @@ public final class BuildTest {
             Check.same("9 one item", x.pushLetrec(v, ONE), R);
             x.pushVar(v);
             Check.same("9 pushLetrec(" + v + ", -1)", x.pushLetrec(v, ONE), 3);
-            Check.same("9 pops both: run()", x.run(), SafeClosures.OK);
+            Check.same("9 pops both: run()", x.run(), OK);
             Check.left("9 LETREC " + v, x, CLOSURE, 1, 0, 1);
         }
         for (int v : NO_VARIABLES) {
@@ -319,7 +321,7 @@ public final class BuildTest {
                 Check.same("9 pushLetrec(1, " + v + ")", x.pushLetrec(1, v), R);
             }
             Check.same("9 refused counts no index", x.pushLetrec(0, 1), 5);
-            Check.same("9 refused keeps the stack", x.run(), SafeClosures.OK);
+            Check.same("9 refused keeps the stack", x.run(), OK);
         }
         SafeClosures x = plain();
         x.pushNum(30);
@@ -342,7 +344,7 @@ public final class BuildTest {
                 Check.same("9 two, two items", x.pushLetrec(v, w), R);
                 Source.push(x, "(- (app v" + v + " 5) (app v" + w + " 7))");
                 Check.same("9 pushLetrec(" + v + ", " + w + ")", x.pushLetrec(v, w), v == w ? R : 15);
-                Check.same("9 two: run()", x.run(), v == w ? R : SafeClosures.OK);
+                Check.same("9 two: run()", x.run(), v == w ? R : OK);
                 if (v != w) {
                     Check.left("9 l1 is the lowest", x, INT, 6 - 70, 2, 2);
                 }
@@ -388,16 +390,13 @@ public final class BuildTest {
 
     private static void fullTable() {
         SafeClosures x = plain();
-        for (int i = 0; i < 29; i++) {
+        for (int i = 0; i < 32; i++) {
             Check.same("2 index", x.pushNum(i), i);
         }
-        Check.same("2 index", x.pushVar(0), 29);
-        Check.same("2 index", x.pushLam(0), 30);
-        Check.same("2 the last index", x.pushNum(31), 31);
         refusesAll(x);
+        Check.same("10 full, many items", x.run(), R);
         Check.same("16 last node", x.freeVars(31), 0);
         Check.same("16 beyond the last node", x.freeVars(32), R);
-        // 31 items stood on the stack when the table was full, and none of them moved.
         x.clear();
         Check.same("12 the table is free again", x.pushNum(1), 0);
     }
@@ -412,27 +411,36 @@ public final class BuildTest {
         Check.same("8 full", x.pushLet(1), R);
         Check.same("9 full, one", x.pushLetrec(1, ONE), R);
         Check.same("9 full, two", x.pushLetrec(1, 2), R);
-        SafeClosures lambdas = plain();
-        Source.push(lambdas, "(lam v0 1)");
-        Source.push(lambdas, "(lam v0 1)");
-        Source.push(lambdas, "(lam v0 1)");
-        for (int i = 6; i < 31; i++) {
-            lambdas.pushLam(0);
+    }
+
+    /** Items that are all LAM nodes, so that only the full table can refuse a LETREC. */
+    private static SafeClosures lambdas(int items, int nodes) {
+        SafeClosures x = plain();
+        for (int i = 0; i < items; i++) {
+            Source.push(x, "(lam v0 1)");
         }
-        Check.same("9 the last node", lambdas.pushLetrec(1, 2), 31);
-        Check.same("9 the last node: run()", lambdas.run(), SafeClosures.OK);
-        Check.same("4 full, one item", lambdas.pushLam(1), R);
-        Check.same("9 full", lambdas.pushLetrec(1, 2), R);
-        SafeClosures one = plain();
-        Source.push(one, "(lam v0 1)");
-        Source.push(one, "(lam v0 1)");
-        for (int i = 4; i < 32; i++) {
-            one.pushLam(0);
+        for (int i = 2 * items; i < nodes; i++) {
+            Check.same("4 index", x.pushLam(0), i);
         }
-        Check.same("9 full, one binding of a LAM", one.pushLetrec(1, ONE), R);
-        Check.same("5 full, two items", one.pushApp(), R);
-        Check.same("6 full, two items", one.pushPrim(4), R);
-        Check.same("8 full, two items", one.pushLet(7), R);
+        return x;
+    }
+
+    private static void fullTableOfLambdas() {
+        for (int items = 1; items <= 4; items++) {
+            refusesAll(lambdas(items, 32));
+        }
+        Check.same("4 the last node", lambdas(1, 31).pushLam(7), 31);
+        Check.same("5 the last node", lambdas(2, 31).pushApp(), 31);
+        Check.same("6 the last node", lambdas(2, 31).pushPrim(4), 31);
+        Check.same("7 the last node", lambdas(3, 31).pushIf(), 31);
+        Check.same("8 the last node", lambdas(2, 31).pushLet(7), 31);
+        Check.same("9 the last node, one", lambdas(2, 31).pushLetrec(7, ONE), 31);
+        SafeClosures x = lambdas(3, 31);
+        Check.same("9 the last node, two", x.pushLetrec(1, 2), 31);
+        Check.same("3 full, one item", x.pushVar(0), R);
+        refusesAll(x);
+        Check.same("10 full: run()", x.run(), OK);
+        Check.left("10 full", x, CLOSURE, 30, 0, 1);
     }
 
     private static void pushEach(SafeClosures x) {
@@ -464,7 +472,7 @@ public final class BuildTest {
         pushEach(x);
         Check.holds("pushes: not all were made", x.freeVars(24) != R);
         Check.left("pushes: after", x, CLOSURE, 5, 1, 2);
-        Check.same("pushes: the held closure still runs", x.callResult(4), SafeClosures.OK);
+        Check.same("pushes: the held closure still runs", x.callResult(4), OK);
         Check.left("pushes: its answer", x, INT, 5, 1, 0);
         x.pushNum(1);
         x.pushVar(9);
@@ -488,7 +496,7 @@ public final class BuildTest {
         Check.same("refused", x.pushLetrec(0, 1), R);
         Check.same("refused: freeVars", x.freeVars(2), R);
         Check.same("refused: next index", x.pushPrim(SafeClosures.OP_SUB), 2);
-        Check.same("refused: run()", x.run(), SafeClosures.OK);
+        Check.same("refused: run()", x.run(), OK);
         Check.same("refused: resultValue()", x.resultValue(), 42);
     }
 
@@ -506,7 +514,7 @@ public final class BuildTest {
         Check.same("12 new node", x.freeVars(0), 64);
         Check.same("12 no node beyond", x.freeVars(1), R);
         Check.same("12 one item", x.pushLam(6), 1);
-        Check.same("12 run()", x.run(), SafeClosures.OK);
+        Check.same("12 run()", x.run(), OK);
         Check.left("12 runs again", x, CLOSURE, 1, 0, 1);
         x.callResult(5);
         x.clear();

@@ -25,6 +25,7 @@ public final class RunTest {
         callResultLeavesTheProgram();
         manyCalls();
         fuel();
+        longestRun();
         depth();
         tailCalls();
         liveClosures();
@@ -309,6 +310,13 @@ public final class RunTest {
         }
     }
 
+    /** As many steps as 32 nodes and all the fuel can make, within a few. */
+    private static void longestRun() {
+        String zero = "(- v1 v1)";
+        String less = "(- (- (- (- v1 1) " + zero + ") " + zero + ") (- " + zero + " " + zero + "))";
+        gives("(letrec v0 (lam v1 (if v1 (app v0 " + less + ") 42)) (app v0 99))", 42, 100, 1);
+    }
+
     private static void depthIs(String text, int most) {
         SafeClosures fits = Source.object(100, 32, most, text);
         Check.same("10 at depth " + most + ": " + text, fits.run(), OK);
@@ -420,7 +428,15 @@ public final class RunTest {
         Check.same("15 thirty in a chain and two", full.run(), OK);
         Check.same("15 thirty in a chain and two: kind", full.resultKind(), CLOSURE);
         Check.same("15 thirty in a chain and two: peak", full.peakLive(), 32);
+        String atEnd = "(let v2 (lam v3 v2) (let v2 (lam v3 v2) (letrec2 v4 (lam v3 v5) v5 (lam v3 v2) v4)))";
+        String all = "(app (app (letrec v0 (lam v1 (lam v2 (if v1 (app (app v0 (- v1 1)) (lam v3 v2)) "
+            + atEnd + "))) v0) 30) 7)";
+        SafeClosures beyond = object(all);
         for (int i = 0; i < 3; i++) {
+            Check.same("15 the most there can be", beyond.run(), SafeClosures.ERR_MEMORY);
+            Check.left("15 the most there can be", beyond, NONE, 0, 62, 34);
+            Check.same("15 full again", full.run(), OK);
+            Check.left("15 full again", full, CLOSURE, full.resultValue(), 62, 32);
             over.run();
             Check.left("15 the same after errors", over, NONE, 0, 0, 3);
         }
