@@ -1,8 +1,7 @@
-/** Promises 1 to 9, 12 and 16: construction, the push methods, clear and freeVars. */
+/** Promises 2 to 9: what each push method makes, of what it takes from the build stack. */
 public final class BuildTest {
     private static final int R = SafeClosures.REFUSED;
     private static final int OK = SafeClosures.OK;
-    private static final int NONE = SafeClosures.KIND_NONE;
     private static final int INT = SafeClosures.KIND_INT;
     private static final int CLOSURE = SafeClosures.KIND_CLOSURE;
     private static final int ONE = SafeClosures.NO_SECOND;
@@ -11,11 +10,6 @@ public final class BuildTest {
     private static final int[] NO_VARIABLES = {-1, 8, -2, 9, 31, 32, 33, 64, 256, LEAST, GREATEST};
 
     public static void main(String[] args) {
-        initialState();
-        fuelIsClamped();
-        liveLimitIsClamped();
-        depthLimitIsClamped();
-        limitsStay();
         pushNum();
         pushVar();
         pushLam();
@@ -30,98 +24,11 @@ public final class BuildTest {
         fullTableOfLambdas();
         pushesKeepTheResult();
         refusedPushesKeepTheStack();
-        clear();
-        freeVars();
-        freeVarsRange();
         Check.end();
     }
 
     private static SafeClosures plain() {
         return new SafeClosures(100, 32, 32);
-    }
-
-    private static void initialState() {
-        SafeClosures x = plain();
-        Check.left("1 new", x, NONE, 0, 0, 0);
-        Check.same("1 new: freeVars(0)", x.freeVars(0), R);
-        Check.same("1 new: run()", x.run(), R);
-        Check.same("1 new: callResult(1)", x.callResult(1), R);
-        Check.same("1 new: pushLam(0)", x.pushLam(0), R);
-        Check.same("1 new: pushApp()", x.pushApp(), R);
-        Check.left("1 new, after refusals", x, NONE, 0, 0, 0);
-        Check.same("1 new: first index", x.pushNum(5), 0);
-    }
-
-    /** A loop without end spends all the fuel there is. */
-    private static int spentFuel(int fuel) {
-        SafeClosures x = Source.object(fuel, 32, 32, "(letrec v0 (lam v1 (app v0 v1)) (app v0 1))");
-        Check.same("1 endless loop, fuel " + fuel, x.run(), SafeClosures.ERR_FUEL);
-        return x.callsUsed();
-    }
-
-    private static void fuelIsClamped() {
-        int[] given = {LEAST, -100, -1, 0, 1, 2, 37, 99, 100, 101, 1000, GREATEST};
-        int[] kept = {1, 1, 1, 1, 1, 2, 37, 99, 100, 100, 100, 100};
-        for (int i = 0; i < given.length; i++) {
-            Check.same("1 fuel " + given[i], spentFuel(given[i]), kept[i]);
-        }
-    }
-
-    /** Each turn of this loop adds one closure to a chain, with two more live beside it. */
-    private static String chain(int length) {
-        return "(app (app (letrec v0 (lam v1 (lam v2 (if v1 (app (app v0 (- v1 1)) (lam v3 v2)) v2))) v0) "
-            + length + ") 7)";
-    }
-
-    private static void liveLimitIsClamped() {
-        int[] given = {LEAST, -1, 0, 1, 2, 3, 17, 31, 32, 33, 1000, GREATEST};
-        int[] kept = {2, 2, 2, 2, 2, 3, 17, 31, 32, 32, 32, 32};
-        for (int i = 0; i < given.length; i++) {
-            SafeClosures most = Source.object(100, given[i], 32, chain(kept[i] - 2));
-            Check.same("1 liveLimit " + given[i] + " reached", most.run(), OK);
-            Check.same("1 liveLimit " + given[i] + " reached: peakLive()", most.peakLive(), kept[i]);
-            SafeClosures over = Source.object(100, given[i], 32, chain(kept[i] - 1));
-            Check.same("1 liveLimit " + given[i] + " exceeded", over.run(), SafeClosures.ERR_MEMORY);
-            Check.same("1 liveLimit " + given[i] + " exceeded: peakLive()", over.peakLive(), kept[i] + 1);
-        }
-    }
-
-    /** Every turn waits in one RIGHT frame; the last one's test and subtraction need one frame more. */
-    private static String sum(int turns) {
-        return "(letrec v0 (lam v1 (if v1 (+ 1 (app v0 (- v1 1))) 0)) (app v0 " + turns + "))";
-    }
-
-    private static void depthLimitIsClamped() {
-        int[] given = {LEAST, -1, 0, 3, 4, 5, 20, 31, 32, 33, 1000, GREATEST};
-        int[] kept = {4, 4, 4, 4, 4, 5, 20, 31, 32, 32, 32, 32};
-        for (int i = 0; i < given.length; i++) {
-            // A turn pushes RIGHT, CALL and LEFT above the waiting RIGHT frames of the turns before it.
-            int turns = kept[i] - 2;
-            SafeClosures most = Source.object(100, 32, given[i], sum(turns));
-            Check.same("1 depthLimit " + given[i] + " reached", most.run(), OK);
-            Check.same("1 depthLimit " + given[i] + " reached: value", most.resultValue(), turns);
-            SafeClosures over = Source.object(100, 32, given[i], sum(turns + 1));
-            Check.same("1 depthLimit " + given[i] + " exceeded", over.run(), SafeClosures.ERR_DEPTH);
-        }
-    }
-
-    private static void limitsStay() {
-        SafeClosures x = Source.object(3, 2, 4, "(letrec v0 (lam v1 (app v0 v1)) (app v0 1))");
-        for (int i = 0; i < 3; i++) {
-            Check.same("1 fuel stays", x.run(), SafeClosures.ERR_FUEL);
-            Check.same("1 fuel stays: callsUsed()", x.callsUsed(), 3);
-        }
-        x.clear();
-        Source.push(x, "(letrec v0 (lam v1 (app v0 v1)) (app v0 1))");
-        Check.same("12 fuel stays over clear", x.run(), SafeClosures.ERR_FUEL);
-        Check.same("12 fuel stays over clear: callsUsed()", x.callsUsed(), 3);
-        x.clear();
-        Source.push(x, sum(3));
-        Check.same("12 depthLimit stays over clear", x.run(), SafeClosures.ERR_DEPTH);
-        x.clear();
-        Source.push(x, chain(1));
-        Check.same("12 liveLimit stays over clear", x.run(), SafeClosures.ERR_MEMORY);
-        Check.same("12 liveLimit stays over clear: peakLive()", x.peakLive(), 3);
     }
 
     private static void pushNum() {
@@ -498,79 +405,5 @@ public final class BuildTest {
         Check.same("refused: next index", x.pushPrim(SafeClosures.OP_SUB), 2);
         Check.same("refused: run()", x.run(), OK);
         Check.same("refused: resultValue()", x.resultValue(), 42);
-    }
-
-    private static void clear() {
-        SafeClosures x = Source.object(100, 32, 32, "(app (lam v0 v0) (lam v1 v1))");
-        x.run();
-        Check.left("12 before", x, CLOSURE, 3, 1, 2);
-        x.clear();
-        Check.left("12 after", x, NONE, 0, 0, 0);
-        Check.same("12 no node", x.freeVars(0), R);
-        Check.same("12 no program", x.run(), R);
-        Check.same("12 no held closure", x.callResult(1), R);
-        Check.same("12 no item", x.pushLam(0), R);
-        Check.same("12 numbering", x.pushVar(6), 0);
-        Check.same("12 new node", x.freeVars(0), 64);
-        Check.same("12 no node beyond", x.freeVars(1), R);
-        Check.same("12 one item", x.pushLam(6), 1);
-        Check.same("12 run()", x.run(), OK);
-        Check.left("12 runs again", x, CLOSURE, 1, 0, 1);
-        x.callResult(5);
-        x.clear();
-        Check.left("12 after an int", x, NONE, 0, 0, 0);
-        x.clear();
-        Check.left("12 twice", x, NONE, 0, 0, 0);
-    }
-
-    private static void freeIs(String text, int mask) {
-        SafeClosures x = plain();
-        int root = Source.push(x, text);
-        Check.same("16 " + text, x.freeVars(root), mask);
-        Check.same("16 asked twice: " + text, x.freeVars(root), mask);
-    }
-
-    private static void freeVars() {
-        freeIs("7", 0);
-        freeIs("v0", 1);
-        freeIs("v7", 128);
-        freeIs("(lam v0 v0)", 0);
-        freeIs("(lam v0 v1)", 2);
-        freeIs("(lam v0 (app v0 v1))", 2);
-        freeIs("(app v1 v2)", 6);
-        freeIs("(app v2 v2)", 4);
-        freeIs("(+ v3 v4)", 24);
-        freeIs("(if v0 v2 v4)", 21);
-        freeIs("(let v0 v1 v2)", 6);
-        freeIs("(let v0 v0 v0)", 1);
-        freeIs("(let v0 v0 1)", 1);
-        freeIs("(let v0 1 v0)", 0);
-        freeIs("(let v0 v3 (+ v0 v5))", 40);
-        freeIs("(letrec v0 (lam v1 (app v0 v1)) v0)", 0);
-        freeIs("(letrec v0 (lam v1 (app v2 v1)) v1)", 6);
-        freeIs("(letrec v0 (lam v0 v0) v3)", 8);
-        freeIs("(letrec v0 (lam v1 v5) 1)", 32);
-        freeIs("(letrec2 v0 (lam v2 (app v1 v2)) v1 (lam v2 (app v0 v2)) (app v0 v1))", 0);
-        freeIs("(letrec2 v0 (lam v2 v3) v1 (lam v2 v4) v5)", 56);
-        freeIs("(letrec2 v6 (lam v2 v7) v7 (lam v2 v6) v2)", 4);
-        freeIs("(lam v3 (letrec2 v0 (lam v2 v3) v1 (lam v2 v4) v5))", 48);
-        freeIs("(+ (+ (+ v0 v1) (+ v2 v3)) (+ (+ v4 v5) (+ v6 v7)))", 255);
-        freeIs("(lam v4 (+ (+ (+ v0 v1) (+ v2 v3)) (+ (+ v4 v5) (+ v6 v7))))", 239);
-    }
-
-    private static void freeVarsRange() {
-        SafeClosures x = plain();
-        int root = Source.push(x, "(lam v1 (+ v1 v2))");
-        int[] due = {2, 4, 6, 4};
-        for (int n = 0; n <= root; n++) {
-            Check.same("16 node " + n, x.freeVars(n), due[n]);
-        }
-        int[] wrong = {-1, 4, 5, 31, 32, 33, -2, LEAST, GREATEST};
-        for (int n : wrong) {
-            Check.same("16 node " + n, x.freeVars(n), R);
-        }
-        Check.same("16 changes nothing: run()", x.run(), SafeClosures.ERR_UNBOUND);
-        x.pushNum(1);
-        Check.same("16 a child stays after its parent is made", x.freeVars(0), 2);
     }
 }

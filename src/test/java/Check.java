@@ -3,8 +3,14 @@ final class Check {
     private static final int SHOWN = 20;
     private static int made = 0;
     private static int wrong = 0;
+    private static String sentence = "";
 
     private Check() {
+    }
+
+    /** Names the sentence of the document that the checks after it are due to. */
+    static void sentence(String text) {
+        sentence = text + ": ";
     }
 
     static void same(String what, long got, long want) {
@@ -24,7 +30,7 @@ final class Check {
     private static void tell(String text) {
         wrong++;
         if (wrong <= SHOWN) {
-            System.out.println(text);
+            System.out.println(sentence + text);
         }
     }
 
@@ -34,6 +40,20 @@ final class Check {
         same(what + ": resultValue()", x.resultValue(), value);
         same(what + ": callsUsed()", x.callsUsed(), calls);
         same(what + ": peakLive()", x.peakLive(), peak);
+    }
+
+    /** A program that gives an int, under the greatest limits. */
+    static void gives(String text, int value, int calls, int peak) {
+        SafeClosures x = State.items(text);
+        same(text, x.run(), SafeClosures.OK);
+        left(text, x, SafeClosures.KIND_INT, value, calls, peak);
+    }
+
+    /** A program that ends with an error, under the greatest limits. */
+    static void fails(String text, int error, int calls, int peak) {
+        SafeClosures x = State.items(text);
+        same(text, x.run(), error);
+        left(text, x, SafeClosures.KIND_NONE, 0, calls, peak);
     }
 
     static void end() {

@@ -38,18 +38,6 @@ public final class RunTest {
         return Source.object(100, 32, 32, text);
     }
 
-    private static void gives(String text, int value, int calls, int peak) {
-        SafeClosures x = object(text);
-        Check.same("10 " + text, x.run(), OK);
-        Check.left("10 " + text, x, INT, value, calls, peak);
-    }
-
-    private static void fails(String text, int error, int calls, int peak) {
-        SafeClosures x = object(text);
-        Check.same("10 " + text, x.run(), error);
-        Check.left("10 " + text, x, NONE, 0, calls, peak);
-    }
-
     private static void runNeedsOneItem() {
         SafeClosures x = new SafeClosures(100, 32, 32);
         Check.same("10 no item", x.run(), R);
@@ -77,13 +65,13 @@ public final class RunTest {
     }
 
     private static void unboundRoot() {
-        fails("v0", SafeClosures.ERR_UNBOUND, 0, 0);
-        fails("v7", SafeClosures.ERR_UNBOUND, 0, 0);
-        fails("(lam v0 v1)", SafeClosures.ERR_UNBOUND, 0, 0);
-        fails("(if 1 2 v3)", SafeClosures.ERR_UNBOUND, 0, 0);
-        fails("(let v0 v0 1)", SafeClosures.ERR_UNBOUND, 0, 0);
-        fails("(app 1 v0)", SafeClosures.ERR_UNBOUND, 0, 0);
-        fails("(letrec v0 (lam v1 v2) 5)", SafeClosures.ERR_UNBOUND, 0, 0);
+        Check.fails("v0", SafeClosures.ERR_UNBOUND, 0, 0);
+        Check.fails("v7", SafeClosures.ERR_UNBOUND, 0, 0);
+        Check.fails("(lam v0 v1)", SafeClosures.ERR_UNBOUND, 0, 0);
+        Check.fails("(if 1 2 v3)", SafeClosures.ERR_UNBOUND, 0, 0);
+        Check.fails("(let v0 v0 1)", SafeClosures.ERR_UNBOUND, 0, 0);
+        Check.fails("(app 1 v0)", SafeClosures.ERR_UNBOUND, 0, 0);
+        Check.fails("(letrec v0 (lam v1 v2) 5)", SafeClosures.ERR_UNBOUND, 0, 0);
         SafeClosures x = object("(app (lam v0 v0) (lam v1 v1))");
         x.run();
         x.pushVar(4);
@@ -99,79 +87,79 @@ public final class RunTest {
         int[] numbers = {0, 1, -1, 2, 7, -13, 65536, 46341, 1000000007, Integer.MAX_VALUE, Integer.MIN_VALUE};
         for (int a : numbers) {
             for (int b : numbers) {
-                gives("(+ " + a + " " + b + ")", a + b, 0, 0);
-                gives("(- " + a + " " + b + ")", a - b, 0, 0);
-                gives("(* " + a + " " + b + ")", a * b, 0, 0);
-                gives("(< " + a + " " + b + ")", a < b ? 1 : 0, 0, 0);
-                gives("(= " + a + " " + b + ")", a == b ? 1 : 0, 0, 0);
+                Check.gives("(+ " + a + " " + b + ")", a + b, 0, 0);
+                Check.gives("(- " + a + " " + b + ")", a - b, 0, 0);
+                Check.gives("(* " + a + " " + b + ")", a * b, 0, 0);
+                Check.gives("(< " + a + " " + b + ")", a < b ? 1 : 0, 0, 0);
+                Check.gives("(= " + a + " " + b + ")", a == b ? 1 : 0, 0, 0);
             }
         }
-        gives("(- (- 10 4) (- 3 1))", 4, 0, 0);
-        gives("(if (< 3 2) 10 (if (= 2 2) 20 30))", 20, 0, 0);
+        Check.gives("(- (- 10 4) (- 3 1))", 4, 0, 0);
+        Check.gives("(if (< 3 2) 10 (if (= 2 2) 20 30))", 20, 0, 0);
     }
 
     private static void scopes() {
-        gives("(let v0 3 (+ v0 v0))", 6, 0, 0);
-        gives("(let v0 1 (let v0 (+ v0 1) (* v0 10)))", 20, 0, 0);
-        gives("(let v0 1 (+ (let v0 5 v0) v0))", 6, 0, 0);
-        gives("(let v0 1 (+ v0 (let v0 5 v0)))", 6, 0, 0);
-        gives("(let v0 2 (let v1 (lam v2 (* v0 v2)) (let v0 100 (app v1 v0))))", 200, 1, 1);
-        gives("(app (lam v0 (app (lam v0 (+ v0 1)) (* v0 2))) 5)", 11, 2, 1);
-        gives("(let v0 7 (app (lam v1 v0) 3))", 7, 1, 1);
-        gives("(let v7 7 (let v0 1 (if v0 v7 v0)))", 7, 0, 0);
-        gives("(let v3 (lam v1 v1) (let v3 5 v3))", 5, 0, 1);
-        gives("(let v3 5 (app (let v3 (lam v1 (+ v1 1)) v3) v3))", 6, 1, 1);
-        gives("(letrec v0 (lam v0 v0) (app v0 8))", 8, 1, 1);
-        gives("(let v0 1 (+ (letrec v0 (lam v1 v1) (app v0 20)) v0))", 21, 1, 1);
-        gives("(app (app (app (lam v0 (lam v1 (lam v2 (- (- v0 v1) v2)))) 10) 3) 2)", 5, 3, 1);
+        Check.gives("(let v0 3 (+ v0 v0))", 6, 0, 0);
+        Check.gives("(let v0 1 (let v0 (+ v0 1) (* v0 10)))", 20, 0, 0);
+        Check.gives("(let v0 1 (+ (let v0 5 v0) v0))", 6, 0, 0);
+        Check.gives("(let v0 1 (+ v0 (let v0 5 v0)))", 6, 0, 0);
+        Check.gives("(let v0 2 (let v1 (lam v2 (* v0 v2)) (let v0 100 (app v1 v0))))", 200, 1, 1);
+        Check.gives("(app (lam v0 (app (lam v0 (+ v0 1)) (* v0 2))) 5)", 11, 2, 1);
+        Check.gives("(let v0 7 (app (lam v1 v0) 3))", 7, 1, 1);
+        Check.gives("(let v7 7 (let v0 1 (if v0 v7 v0)))", 7, 0, 0);
+        Check.gives("(let v3 (lam v1 v1) (let v3 5 v3))", 5, 0, 1);
+        Check.gives("(let v3 5 (app (let v3 (lam v1 (+ v1 1)) v3) v3))", 6, 1, 1);
+        Check.gives("(letrec v0 (lam v0 v0) (app v0 8))", 8, 1, 1);
+        Check.gives("(let v0 1 (+ (letrec v0 (lam v1 v1) (app v0 20)) v0))", 21, 1, 1);
+        Check.gives("(app (app (app (lam v0 (lam v1 (lam v2 (- (- v0 v1) v2)))) 10) 3) 2)", 5, 3, 1);
     }
 
     private static void recursion() {
-        gives("(letrec v0 (lam v1 (if v1 (* v1 (app v0 (- v1 1))) 1)) (app v0 5))", 120, 6, 1);
-        gives("(letrec v0 (lam v1 (if (< v1 2) v1 (+ (app v0 (- v1 1)) (app v0 (- v1 2))))) (app v0 7))",
+        Check.gives("(letrec v0 (lam v1 (if v1 (* v1 (app v0 (- v1 1))) 1)) (app v0 5))", 120, 6, 1);
+        Check.gives("(letrec v0 (lam v1 (if (< v1 2) v1 (+ (app v0 (- v1 1)) (app v0 (- v1 2))))) (app v0 7))",
             13, 41, 1);
         String even = "(lam v2 (if v2 (app v1 (- v2 1)) 1))";
         String odd = "(lam v2 (if v2 (app v0 (- v2 1)) 0))";
-        gives("(letrec2 v0 " + even + " v1 " + odd + " (app v0 11))", 0, 12, 2);
-        gives("(letrec2 v0 " + even + " v1 " + odd + " (app v0 10))", 1, 11, 2);
-        gives("(letrec2 v0 " + even + " v1 " + odd + " (app v1 10))", 0, 11, 2);
-        gives("(letrec2 v5 (lam v0 (+ v0 1)) v6 (lam v0 (* v0 2)) (app v5 (app v6 4)))", 9, 2, 2);
+        Check.gives("(letrec2 v0 " + even + " v1 " + odd + " (app v0 11))", 0, 12, 2);
+        Check.gives("(letrec2 v0 " + even + " v1 " + odd + " (app v0 10))", 1, 11, 2);
+        Check.gives("(letrec2 v0 " + even + " v1 " + odd + " (app v1 10))", 0, 11, 2);
+        Check.gives("(letrec2 v5 (lam v0 (+ v0 1)) v6 (lam v0 (* v0 2)) (app v5 (app v6 4)))", 9, 2, 2);
         // Closures are made for the names themselves, whatever the names meant outside.
-        gives("(let v0 9 (letrec v0 (lam v1 (if v1 (app v0 0) 4)) (app v0 1)))", 4, 2, 1);
+        Check.gives("(let v0 9 (letrec v0 (lam v1 (if v1 (app v0 0) 4)) (app v0 1)))", 4, 2, 1);
     }
 
     private static void typeErrors() {
         int error = SafeClosures.ERR_TYPE;
         for (String op : new String[] {"+", "-", "*", "<", "="}) {
-            fails("(" + op + " (lam v0 v0) 1)", error, 0, 1);
-            fails("(" + op + " 1 (lam v0 v0))", error, 0, 1);
-            fails("(" + op + " (lam v0 v0) (lam v0 v0))", error, 0, 2);
+            Check.fails("(" + op + " (lam v0 v0) 1)", error, 0, 1);
+            Check.fails("(" + op + " 1 (lam v0 v0))", error, 0, 1);
+            Check.fails("(" + op + " (lam v0 v0) (lam v0 v0))", error, 0, 2);
         }
-        fails("(let v0 (lam v1 v1) (= v0 v0))", error, 0, 1);
-        fails("(if (lam v0 v0) 1 2)", error, 0, 1);
-        fails("(app (lam v0 (if v0 1 2)) (lam v1 v1))", error, 1, 2);
+        Check.fails("(let v0 (lam v1 v1) (= v0 v0))", error, 0, 1);
+        Check.fails("(if (lam v0 v0) 1 2)", error, 0, 1);
+        Check.fails("(app (lam v0 (if v0 1 2)) (lam v1 v1))", error, 1, 2);
     }
 
     private static void notFunctions() {
         int error = SafeClosures.ERR_NOT_FUNCTION;
-        fails("(app 1 2)", error, 0, 0);
-        fails("(app 0 (lam v0 v0))", error, 0, 1);
-        fails("(app (app (lam v0 v0) 3) 4)", error, 1, 1);
-        fails("(let v0 5 (app v0 v0))", error, 0, 0);
+        Check.fails("(app 1 2)", error, 0, 0);
+        Check.fails("(app 0 (lam v0 v0))", error, 0, 1);
+        Check.fails("(app (app (lam v0 v0) 3) 4)", error, 1, 1);
+        Check.fails("(let v0 5 (app v0 v0))", error, 0, 0);
     }
 
     /** The first error in the order of evaluation is the one that is answered. */
     private static void orderOfEvaluation() {
-        fails("(+ (app 1 2) (+ (lam v0 v0) 1))", SafeClosures.ERR_NOT_FUNCTION, 0, 0);
-        fails("(+ (+ (lam v0 v0) 1) (app 1 2))", SafeClosures.ERR_TYPE, 0, 1);
-        fails("(app 1 (+ (lam v0 v0) 1))", SafeClosures.ERR_TYPE, 0, 1);
-        fails("(+ (lam v0 v0) (app 1 2))", SafeClosures.ERR_NOT_FUNCTION, 0, 1);
-        fails("(app 1 " + LOOP + ")", SafeClosures.ERR_FUEL, 100, 1);
-        fails("(+ (lam v0 v0) " + LOOP + ")", SafeClosures.ERR_FUEL, 100, 2);
-        gives("(if 0 (app 1 2) 3)", 3, 0, 0);
-        gives("(if 1 3 (app 1 2))", 3, 0, 0);
-        gives("(let v0 (lam v1 (app 1 2)) 6)", 6, 0, 1);
-        fails("(let v0 (app 1 2) 6)", SafeClosures.ERR_NOT_FUNCTION, 0, 0);
+        Check.fails("(+ (app 1 2) (+ (lam v0 v0) 1))", SafeClosures.ERR_NOT_FUNCTION, 0, 0);
+        Check.fails("(+ (+ (lam v0 v0) 1) (app 1 2))", SafeClosures.ERR_TYPE, 0, 1);
+        Check.fails("(app 1 (+ (lam v0 v0) 1))", SafeClosures.ERR_TYPE, 0, 1);
+        Check.fails("(+ (lam v0 v0) (app 1 2))", SafeClosures.ERR_NOT_FUNCTION, 0, 1);
+        Check.fails("(app 1 " + LOOP + ")", SafeClosures.ERR_FUEL, 100, 1);
+        Check.fails("(+ (lam v0 v0) " + LOOP + ")", SafeClosures.ERR_FUEL, 100, 2);
+        Check.gives("(if 0 (app 1 2) 3)", 3, 0, 0);
+        Check.gives("(if 1 3 (app 1 2))", 3, 0, 0);
+        Check.gives("(let v0 (lam v1 (app 1 2)) 6)", 6, 0, 1);
+        Check.fails("(let v0 (app 1 2) 6)", SafeClosures.ERR_NOT_FUNCTION, 0, 0);
     }
 
     private static void runsRepeat() {
@@ -314,7 +302,7 @@ public final class RunTest {
     private static void longestRun() {
         String zero = "(- v1 v1)";
         String less = "(- (- (- (- v1 (+ 1 0)) " + zero + ") " + zero + ") (- " + zero + " " + zero + "))";
-        gives("(letrec v0 (lam v1 (if v1 (app v0 " + less + ") 42)) (app v0 99))", 42, 100, 1);
+        Check.gives("(letrec v0 (lam v1 (if v1 (app v0 " + less + ") 42)) (app v0 99))", 42, 100, 1);
     }
 
     private static void depthIs(String text, int most) {
@@ -338,7 +326,7 @@ public final class RunTest {
         depthIs("(app (app (app (app (app (lam v0 (lam v0 (lam v0 (lam v0 (lam v0 v0))))) 1) 1) 1) 1) 1)", 5);
         depthIs("(+ 1 (+ 1 (app (lam v0 (if v0 (+ 1 (let v1 (* 2 v0) v1)) 0)) 4)))", 5);
         String letrecs = "(letrec v0 (lam v1 v1) (letrec v0 (lam v1 v1) (letrec v0 (lam v1 v1) 1)))";
-        gives(letrecs, 1, 0, 0);
+        Check.gives(letrecs, 1, 0, 0);
         SafeClosures shallow = Source.object(1, 2, 4, "(let v0 1 (let v0 2 (let v0 3 (let v0 4 (let v0 5 v0)))))");
         Check.same("10 LET bodies need no frame", shallow.run(), OK);
         SafeClosures branches = Source.object(1, 2, 4, "(if 1 (if 1 (if 1 (if 1 (if 1 6 0) 0) 0) 0) 0)");
@@ -406,7 +394,7 @@ public final class RunTest {
         peakIs("(app (lam v0 (app (lam v1 (lam v2 v2)) 3)) 3)", 1);
         // Closures of the same lambda are distinct.
         peakIs("(let v0 (lam v1 (lam v2 v2)) (let v3 (app v0 1) (let v4 (app v0 1) (lam v5 (app v3 v4)))))", 3);
-        fails("(= (let v0 (lam v1 v1) v0) (lam v1 v1))", SafeClosures.ERR_TYPE, 0, 2);
+        Check.fails("(= (let v0 (lam v1 v1) v0) (lam v1 v1))", SafeClosures.ERR_TYPE, 0, 2);
     }
 
     private static void liveLimit() {
@@ -441,7 +429,7 @@ public final class RunTest {
             Check.left("15 the same after errors", over, NONE, 0, 0, 3);
         }
         // A peak is the greatest count, not the last.
-        gives("(+ (app (app (lam v0 (lam v1 1)) (lam v2 2)) (lam v3 3)) (app (lam v0 1) 1))", 2, 3, 2);
+        Check.gives("(+ (app (app (lam v0 (lam v1 1)) (lam v2 2)) (lam v3 3)) (app (lam v0 1) 1))", 2, 3, 2);
     }
 
     private static void answersChangeNothing() {
