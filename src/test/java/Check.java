@@ -1,11 +1,29 @@
 /** Counts the answers that are not as due, and ends the test with exit code 1 if there was one. */
 final class Check {
     private static final int SHOWN = 20;
+    private static final long MOST_MILLISECONDS = 300000;
     private static int made = 0;
     private static int wrong = 0;
-    private static String sentence = "";
+    private static volatile String sentence = "";
+
+    static {
+        // A call that does not end must fail the test, not hold it up for ever.
+        Thread watch = new Thread(Check::failWhenLate);
+        watch.setDaemon(true);
+        watch.start();
+    }
 
     private Check() {
+    }
+
+    private static void failWhenLate() {
+        try {
+            Thread.sleep(MOST_MILLISECONDS);
+        } catch (InterruptedException e) {
+            return;
+        }
+        System.out.println(sentence + "a call has not ended");
+        Runtime.getRuntime().halt(1);
     }
 
     /** Names the sentence of the document that the checks after it are due to. */

@@ -31,15 +31,16 @@ public final class LanguageTest {
         "LIVE_MIN=2", "LIVE_MAX=32", "DEPTH_MIN=4", "DEPTH_MAX=32"));
     private static final String FORBIDDEN = "\\b(import|package|throw|throws|try|catch|synchronized|assert|"
         + "instanceof|float|double|String|Object|Math|Integer|System|Arrays|null|enum|interface|record|extends|"
-        + "implements|protected|native|volatile|transient|var)\\b|->|::|\"|\\[\\s*\\]\\s*\\[|static\\s*\\{";
+        + "implements|protected)\\b|->|::|\"|\\[\\s*\\]\\s*\\[|\\bstatic\\s*\\{|\\bwhile\\s*\\(\\s*true\\b|"
+        + "\\bfor\\s*\\([^;]*;\\s*;";
 
     public static void main(String[] args) throws IOException, IllegalAccessException {
         publicFace();
         memberShapes();
         String text = withoutComments(Files.readString(SOURCE));
         forbiddenWords(text);
-        arraysAreMadeInFields(text);
         Map<String, String> bodies = methodBodies(text);
+        arraysAreMadeAtTheStart(text, bodies);
         callsInsideArguments(bodies);
         callDepth(bodies);
         Check.end();
@@ -99,7 +100,7 @@ public final class LanguageTest {
     }
 
     private static String withoutComments(String text) {
-        return text.replaceAll("(?s)/\\*.*?\\*/", "").replaceAll("//[^\n]*", "");
+        return text.replaceAll("(?s)/\\*.*?\\*/", "").replaceAll("//[^\n]*", "").replaceAll("'.[^']*'", "0");
     }
 
     private static void forbiddenWords(String text) {
@@ -109,26 +110,38 @@ public final class LanguageTest {
         }
     }
 
-    private static void arraysAreMadeInFields(String text) {
-        for (String line : text.split("\n")) {
-            if (line.contains("new ")) {
-                Check.holds("rule 4: " + line,
-                    line.matches("    private final \\w+\\[\\] \\w+ = new \\w+\\[[A-Z_]+\\];"));
-            }
+    private static void arraysAreMadeAtTheStart(String text, Map<String, String> bodies) {
+        Matcher made = Pattern.compile("\\bnew\\b([^;]*)").matcher(text);
+        while (made.find()) {
+            Check.holds("rule 4: new" + made.group(1), made.group(1).matches("\\s+[a-z]+\\s*\\[[A-Z0-9_ *+-]+\\]"));
+        }
+        for (String name : bodies.keySet()) {
+            boolean isConstructor = name.equals(SafeClosures.class.getName());
+            Check.holds("rule 4: new in " + name, isConstructor || !bodies.get(name).matches("(?s).*\\bnew\\b.*"));
         }
     }
 
+    /** The body of every method and of the constructor by its name, however the text is laid out. */
     private static Map<String, String> methodBodies(String text) {
         Map<String, String> bodies = new LinkedHashMap<>();
-        Matcher method = Pattern.compile("(?ms)^    (?:public|private)[\\w ]* (\\w+)\\([^)]*\\) \\{\n(.*?)^    \\}$")
-            .matcher(text);
-        while (method.find()) {
-            Check.holds("two methods are named " + method.group(1),
-                bodies.put(method.group(1), method.group(2)) == null);
-            Check.holds("rule 10: lines of " + method.group(1), method.group(2).split("\n").length <= 60);
+        int read = 0;
+        int start = text.indexOf('{') + 1;
+        for (int at = start; at < text.lastIndexOf('}'); at++) {
+            if (text.charAt(at) == ';') {
+                start = at + 1;
+            } else if (text.charAt(at) == '{') {
+                Matcher name = Pattern.compile("(\\w+)\\s*\\(").matcher(text.substring(start, at));
+                String body = closed(text, at + 1, '{', '}');
+                Check.holds("a body without a name at " + at, name.find());
+                Check.holds("rule 10: lines of " + name.group(1), body.split("\n").length <= 65);
+                bodies.merge(name.group(1), body, String::concat);
+                read++;
+                at += body.length() + 1;
+                start = at + 1;
+            }
         }
         int constructors = SafeClosures.class.getDeclaredConstructors().length;
-        Check.same("methods read", bodies.size(), SafeClosures.class.getDeclaredMethods().length + constructors);
+        Check.same("methods read", read, SafeClosures.class.getDeclaredMethods().length + constructors);
         return bodies;
     }
 
@@ -148,7 +161,7 @@ public final class LanguageTest {
             Matcher call = Pattern.compile("\\b(\\w+)\\(").matcher(method.getValue());
             while (call.find()) {
                 if (bodies.containsKey(call.group(1))) {
-                    String arguments = closed(method.getValue(), call.end());
+                    String arguments = closed(method.getValue(), call.end(), '(', ')');
                     Check.holds("rule 10: a call inside the arguments of " + call.group(1) + " in " + method.getKey(),
                         called(bodies, arguments).isEmpty());
                 }
@@ -157,11 +170,11 @@ public final class LanguageTest {
     }
 
     /** The text from a place inside brackets to their end. */
-    private static String closed(String text, int from) {
+    private static String closed(String text, int from, char left, char right) {
         int open = 1;
         int at = from;
         while (open > 0) {
-            open += text.charAt(at) == '(' ? 1 : text.charAt(at) == ')' ? -1 : 0;
+            open += text.charAt(at) == left ? 1 : text.charAt(at) == right ? -1 : 0;
             at++;
         }
         return text.substring(from, at - 1);

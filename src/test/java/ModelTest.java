@@ -4,6 +4,7 @@ public final class ModelTest {
     private static final int[] seen = new int[STATUSES];
 
     public static void main(String[] args) {
+        Check.sentence("Promises 1 to 16, as the model has them");
         for (int seed = 0; seed < 20000; seed++) {
             compare("programs", seed, new Calls(seed).programs(3));
         }

@@ -1,448 +1,427 @@
-/** Promises 10, 11 and 13 to 15: run, callResult and what they leave. */
+import java.util.function.Supplier;
+
+/** Promises 10, 11 and 13 to 15: when run and callResult are refused, and what they and their errors leave. */
 public final class RunTest {
     private static final int R = SafeClosures.REFUSED;
     private static final int OK = SafeClosures.OK;
     private static final int NONE = SafeClosures.KIND_NONE;
     private static final int INT = SafeClosures.KIND_INT;
     private static final int CLOSURE = SafeClosures.KIND_CLOSURE;
+    private static final int LEAST = Integer.MIN_VALUE;
+    private static final int GREATEST = Integer.MAX_VALUE;
     private static final String LOOP = "(letrec v0 (lam v1 (app v0 v1)) (app v0 1))";
+    private static final String DEEP = "(letrec v0 (lam v1 (+ 1 (app v0 v1))) (app v0 1))";
+    private static final String WIDE = "(letrec v0 (lam v1 (app v0 (lam v2 v1))) (app v0 1))";
+    private static final String[] ERRORS = {"v7", State.ERROR, "(app (app (lam v0 v0) 1) 2)", LOOP, DEEP, WIDE};
+    private static final int[] STATUSES = {SafeClosures.ERR_UNBOUND, SafeClosures.ERR_TYPE,
+        SafeClosures.ERR_NOT_FUNCTION, SafeClosures.ERR_FUEL, SafeClosures.ERR_DEPTH, SafeClosures.ERR_MEMORY};
+    private static final int[] ERROR_CALLS = {0, 1, 1, 100, 32, 32};
+    private static final int[] ERROR_PEAKS = {0, 2, 1, 1, 1, 33};
 
     public static void main(String[] args) {
-        runNeedsOneItem();
-        refusedRunChangesNothing();
-        unboundRoot();
-        arithmetic();
-        scopes();
-        recursion();
-        typeErrors();
-        notFunctions();
-        orderOfEvaluation();
-        runsRepeat();
-        errorsLeaveNoResult();
+        runNeedsExactlyOneItem();
+        runStartsFromNothing();
+        runOfAnUnboundRoot();
+        onlyTheRootMustBeBound();
+        runLeavesTheProgram();
         callResultNeedsAClosure();
-        callResultAppliesTheClosure();
-        callResultErrors();
+        callResultStartsFromNothing();
+        callResultHasFuelOfItsOwn();
+        callResultHasAnEmptyFrameStack();
+        callResultTakesAnyInt();
         callResultLeavesTheProgram();
-        manyCalls();
-        fuel();
-        longestRun();
-        depth();
-        tailCalls();
-        liveClosures();
-        liveLimit();
-        answersChangeNothing();
+        heldKinds();
+        heldValues();
+        callsOfTheLastRun();
+        callsNeverExceedTheFuel();
+        peakCountsTheErrorToo();
+        peakIsZeroWithoutACheck();
+        peakIsTheGreatest();
+        questionsChangeNothing();
         Check.end();
     }
 
-    private static SafeClosures object(String text) {
-        return Source.object(100, 32, 32, text);
+    private static void runRefused(String what, Supplier<SafeClosures> state) {
+        Unchanged.by("run(), " + what, state, o -> o.run(), R);
     }
 
-    private static void runNeedsOneItem() {
+    private static void runNeedsExactlyOneItem() {
+        Check.sentence("Promise 10: Refused (answers REFUSED, changes nothing) unless the build stack holds exactly "
+            + "1 item");
+        runRefused("new", () -> State.items());
+        runRefused("cleared", () -> State.cleared());
+        for (String program : new String[] {State.CLOSURE, State.INT, State.ERROR, "v0"}) {
+            runRefused("two items", () -> State.items(program, "2"));
+            runRefused("two items, the first one run", () -> State.ran(program, "2"));
+            runRefused("two items, after clear()", () -> State.cleared(program, "2"));
+            runRefused("three items, the first one run", () -> State.ran(program, "2", State.LAMBDA));
+            runRefused("two items, all nodes made", () -> State.grown(State.ran(program, "2"), 32));
+        }
         SafeClosures x = new SafeClosures(100, 32, 32);
-        Check.same("10 no item", x.run(), R);
-        x.pushNum(1);
-        Check.same("10 one item", x.run(), OK);
-        x.pushNum(2);
-        Check.same("10 two items", x.run(), R);
-        x.pushNum(3);
-        Check.same("10 three items", x.run(), R);
-        x.pushIf();
-        Check.same("10 one item again", x.run(), OK);
-        Check.left("10 one item again", x, INT, 2, 0, 0);
+        for (int items = 1; items <= 32; items++) {
+            x.pushNum(items);
+            Check.same("run() with " + items + " items", x.run(), items == 1 ? OK : R);
+            Check.left("run() with " + items + " items", x, INT, 1, 0, 0);
+        }
+        SafeClosures again = State.ran("1", "2", "3");
+        Check.same("three items", again.run(), R);
+        Check.same("two of them taken", again.pushPrim(SafeClosures.OP_ADD), 3);
+        Check.same("two items", again.run(), R);
+        Check.same("two of them taken", again.pushPrim(SafeClosures.OP_ADD), 4);
+        Check.same("one item", again.run(), OK);
+        Check.same("its value", again.resultValue(), 6);
     }
 
-    private static void refusedRunChangesNothing() {
-        SafeClosures x = object("(app (lam v0 v0) (lam v1 (* v1 v1)))");
-        x.run();
-        x.pushNum(1);
-        Check.same("10 refused", x.run(), R);
-        Check.left("10 refused keeps the result", x, CLOSURE, 5, 1, 2);
-        Check.same("10 refused keeps the closure", x.callResult(9), OK);
-        Check.left("10 refused keeps the closure", x, INT, 81, 1, 0);
-        Check.same("10 refused", x.run(), R);
-        Check.left("10 refused keeps the int", x, INT, 81, 1, 0);
+    /** Puts the root into a lambda that the body does not call, and runs the body. */
+    private static void bodyRuns(SafeClosures x, String body, int status, int kind, int value) {
+        x.pushLam(7);
+        Source.push(x, body);
+        x.pushLetrec(6, SafeClosures.NO_SECOND);
+        Check.same(body, x.run(), status);
+        Check.left(body, x, kind, value, 0, 0);
     }
 
-    private static void unboundRoot() {
-        Check.fails("v0", SafeClosures.ERR_UNBOUND, 0, 0);
-        Check.fails("v7", SafeClosures.ERR_UNBOUND, 0, 0);
-        Check.fails("(lam v0 v1)", SafeClosures.ERR_UNBOUND, 0, 0);
-        Check.fails("(if 1 2 v3)", SafeClosures.ERR_UNBOUND, 0, 0);
-        Check.fails("(let v0 v0 1)", SafeClosures.ERR_UNBOUND, 0, 0);
-        Check.fails("(app 1 v0)", SafeClosures.ERR_UNBOUND, 0, 0);
-        Check.fails("(letrec v0 (lam v1 v2) 5)", SafeClosures.ERR_UNBOUND, 0, 0);
-        SafeClosures x = object("(app (lam v0 v0) (lam v1 v1))");
-        x.run();
-        x.pushVar(4);
-        x.pushApp();
-        Check.same("10 unbound after a run", x.run(), SafeClosures.ERR_UNBOUND);
-        Check.left("10 unbound after a run", x, NONE, 0, 0, 0);
-        Check.same("10 unbound leaves no closure", x.callResult(1), R);
-        x.pushLam(4);
-        Check.same("10 bound after all", x.run(), OK);
+    private static void runStartsFromNothing() {
+        Check.sentence("Promise 10: Otherwise: the held result becomes NONE, and callsUsed and peakLive become 0");
+        for (String before : new String[] {State.CLOSURE, State.INT, State.ERROR, LOOP, DEEP, WIDE}) {
+            bodyRuns(State.ran(before), "5", OK, INT, 5);
+            bodyRuns(State.ran(before), "(app 1 2)", SafeClosures.ERR_NOT_FUNCTION, NONE, 0);
+            bodyRuns(State.ran(before), "(letrec v1 (lam v0 v0) (if 0 2 3))", OK, INT, 3);
+        }
+        SafeClosures called = State.ran(State.CLOSURE);
+        called.callResult(4);
+        bodyRuns(called, "(if 0 1 2)", OK, INT, 2);
     }
 
-    private static void arithmetic() {
-        int[] numbers = {0, 1, -1, 2, 7, -13, 65536, 46341, 1000000007, Integer.MAX_VALUE, Integer.MIN_VALUE};
-        for (int a : numbers) {
-            for (int b : numbers) {
-                Check.gives("(+ " + a + " " + b + ")", a + b, 0, 0);
-                Check.gives("(- " + a + " " + b + ")", a - b, 0, 0);
-                Check.gives("(* " + a + " " + b + ")", a * b, 0, 0);
-                Check.gives("(< " + a + " " + b + ")", a < b ? 1 : 0, 0, 0);
-                Check.gives("(= " + a + " " + b + ")", a == b ? 1 : 0, 0, 0);
+    private static void isUnbound(SafeClosures x, String what) {
+        Check.same(what, x.run(), SafeClosures.ERR_UNBOUND);
+        Check.left(what, x, NONE, 0, 0, 0);
+        Check.same(what + ": callResult(1)", x.callResult(1), R);
+        Check.left(what + ", asked again", x, NONE, 0, 0, 0);
+    }
+
+    private static void runOfAnUnboundRoot() {
+        Check.sentence("Promise 10: If FV(root) is not empty, the answer is ERR_UNBOUND (held result NONE, "
+            + "callsUsed 0, peakLive 0)");
+        for (int x = 0; x < SafeClosures.NUM_VARS; x++) {
+            String v = "v" + x;
+            String other = "v" + (x + 1) % 8;
+            String[] roots = {v, "(lam " + other + " " + v + ")", "(if 1 2 " + v + ")", "(if 0 " + v + " 2)",
+                "(app 1 " + v + ")", "(app (lam " + other + " 1) " + v + ")", "(let " + v + " " + v + " 1)",
+                "(+ (lam " + other + " 1) " + v + ")", "(letrec " + other + " (lam " + other + " " + v + ") 5)"};
+            for (String root : roots) {
+                isUnbound(State.items(root), root);
+                isUnbound(State.cleared(root), root + " after clear()");
             }
         }
-        Check.gives("(- (- 10 4) (- 3 1))", 4, 0, 0);
-        Check.gives("(if (< 3 2) 10 (if (= 2 2) 20 30))", 20, 0, 0);
-    }
-
-    private static void scopes() {
-        Check.gives("(let v0 3 (+ v0 v0))", 6, 0, 0);
-        Check.gives("(let v0 1 (let v0 (+ v0 1) (* v0 10)))", 20, 0, 0);
-        Check.gives("(let v0 1 (+ (let v0 5 v0) v0))", 6, 0, 0);
-        Check.gives("(let v0 1 (+ v0 (let v0 5 v0)))", 6, 0, 0);
-        Check.gives("(let v0 2 (let v1 (lam v2 (* v0 v2)) (let v0 100 (app v1 v0))))", 200, 1, 1);
-        Check.gives("(app (lam v0 (app (lam v0 (+ v0 1)) (* v0 2))) 5)", 11, 2, 1);
-        Check.gives("(let v0 7 (app (lam v1 v0) 3))", 7, 1, 1);
-        Check.gives("(let v7 7 (let v0 1 (if v0 v7 v0)))", 7, 0, 0);
-        Check.gives("(let v3 (lam v1 v1) (let v3 5 v3))", 5, 0, 1);
-        Check.gives("(let v3 5 (app (let v3 (lam v1 (+ v1 1)) v3) v3))", 6, 1, 1);
-        Check.gives("(letrec v0 (lam v0 v0) (app v0 8))", 8, 1, 1);
-        Check.gives("(let v0 1 (+ (letrec v0 (lam v1 v1) (app v0 20)) v0))", 21, 1, 1);
-        Check.gives("(app (app (app (lam v0 (lam v1 (lam v2 (- (- v0 v1) v2)))) 10) 3) 2)", 5, 3, 1);
-    }
-
-    private static void recursion() {
-        Check.gives("(letrec v0 (lam v1 (if v1 (* v1 (app v0 (- v1 1))) 1)) (app v0 5))", 120, 6, 1);
-        Check.gives("(letrec v0 (lam v1 (if (< v1 2) v1 (+ (app v0 (- v1 1)) (app v0 (- v1 2))))) (app v0 7))",
-            13, 41, 1);
-        String even = "(lam v2 (if v2 (app v1 (- v2 1)) 1))";
-        String odd = "(lam v2 (if v2 (app v0 (- v2 1)) 0))";
-        Check.gives("(letrec2 v0 " + even + " v1 " + odd + " (app v0 11))", 0, 12, 2);
-        Check.gives("(letrec2 v0 " + even + " v1 " + odd + " (app v0 10))", 1, 11, 2);
-        Check.gives("(letrec2 v0 " + even + " v1 " + odd + " (app v1 10))", 0, 11, 2);
-        Check.gives("(letrec2 v5 (lam v0 (+ v0 1)) v6 (lam v0 (* v0 2)) (app v5 (app v6 4)))", 9, 2, 2);
-        // Closures are made for the names themselves, whatever the names meant outside.
-        Check.gives("(let v0 9 (letrec v0 (lam v1 (if v1 (app v0 0) 4)) (app v0 1)))", 4, 2, 1);
-    }
-
-    private static void typeErrors() {
-        int error = SafeClosures.ERR_TYPE;
-        for (String op : new String[] {"+", "-", "*", "<", "="}) {
-            Check.fails("(" + op + " (lam v0 v0) 1)", error, 0, 1);
-            Check.fails("(" + op + " 1 (lam v0 v0))", error, 0, 1);
-            Check.fails("(" + op + " (lam v0 v0) (lam v0 v0))", error, 0, 2);
+        for (String before : new String[] {State.CLOSURE, State.INT, State.ERROR}) {
+            SafeClosures x = State.ran(before, "v3");
+            x.pushApp();
+            isUnbound(x, "unbound after " + before);
+            isUnbound(x, "unbound after " + before + ", again");
+            x.pushLam(3);
+            Check.same("bound after all: run()", x.run(), OK);
+            Check.same("bound after all: resultKind()", x.resultKind(), CLOSURE);
         }
-        Check.fails("(let v0 (lam v1 v1) (= v0 v0))", error, 0, 1);
-        Check.fails("(if (lam v0 v0) 1 2)", error, 0, 1);
-        Check.fails("(app (lam v0 (if v0 1 2)) (lam v1 v1))", error, 1, 2);
     }
 
-    private static void notFunctions() {
-        int error = SafeClosures.ERR_NOT_FUNCTION;
-        Check.fails("(app 1 2)", error, 0, 0);
-        Check.fails("(app 0 (lam v0 v0))", error, 0, 1);
-        Check.fails("(app (app (lam v0 v0) 3) 4)", error, 1, 1);
-        Check.fails("(let v0 5 (app v0 v0))", error, 0, 0);
+    private static void onlyTheRootMustBeBound() {
+        Check.sentence("Promise 10: FV(root), not that of the nodes below it");
+        SafeClosures x = State.items("(let v0 1 (lam v1 (letrec v2 (lam v3 (+ v0 v3)) (app v2 v1))))");
+        Check.same("bound at the root: run()", x.run(), OK);
+        Check.same("bound at the root: callResult(4)", x.callResult(4), OK);
+        Check.left("bound at the root", x, INT, 5, 2, 1);
     }
 
-    /** The first error in the order of evaluation is the one that is answered. */
-    private static void orderOfEvaluation() {
-        Check.fails("(+ (app 1 2) (+ (lam v0 v0) 1))", SafeClosures.ERR_NOT_FUNCTION, 0, 0);
-        Check.fails("(+ (+ (lam v0 v0) 1) (app 1 2))", SafeClosures.ERR_TYPE, 0, 1);
-        Check.fails("(app 1 (+ (lam v0 v0) 1))", SafeClosures.ERR_TYPE, 0, 1);
-        Check.fails("(+ (lam v0 v0) (app 1 2))", SafeClosures.ERR_NOT_FUNCTION, 0, 1);
-        Check.fails("(app 1 " + LOOP + ")", SafeClosures.ERR_FUEL, 100, 1);
-        Check.fails("(+ (lam v0 v0) " + LOOP + ")", SafeClosures.ERR_FUEL, 100, 2);
-        Check.gives("(if 0 (app 1 2) 3)", 3, 0, 0);
-        Check.gives("(if 1 3 (app 1 2))", 3, 0, 0);
-        Check.gives("(let v0 (lam v1 (app 1 2)) 6)", 6, 0, 1);
-        Check.fails("(let v0 (app 1 2) 6)", SafeClosures.ERR_NOT_FUNCTION, 0, 0);
-    }
-
-    private static void runsRepeat() {
-        SafeClosures x = object("(letrec v0 (lam v1 (if v1 (* v1 (app v0 (- v1 1))) 1)) (app v0 5))");
-        for (int i = 0; i < 50; i++) {
-            Check.same("10 repeated", x.run(), OK);
-            Check.left("10 repeated", x, INT, 120, 6, 1);
+    private static void runLeavesTheProgram() {
+        Check.sentence("Promise 10: The nodes and the build stack are unchanged, so run may be repeated");
+        for (int i = 0; i < ERRORS.length; i++) {
+            SafeClosures x = State.items(ERRORS[i]);
+            int nodes = State.nodeCount(x);
+            int root = x.freeVars(nodes - 1);
+            for (int again = 0; again < 4; again++) {
+                Check.same(ERRORS[i], x.run(), STATUSES[i]);
+                Check.left(ERRORS[i], x, NONE, 0, ERROR_CALLS[i], ERROR_PEAKS[i]);
+                Check.same(ERRORS[i] + ": nodes", State.nodeCount(x), nodes);
+                Check.same(ERRORS[i] + ": freeVars of the root", x.freeVars(nodes - 1), root);
+            }
+            Check.same(ERRORS[i] + ": one item", x.pushLam(7), nodes);
+            Check.same(ERRORS[i] + " in a lambda: run()", x.run(), OK);
+            Check.left(ERRORS[i] + " in a lambda", x, CLOSURE, nodes, 0, 1);
         }
-        x.pushNum(1);
-        x.pushPrim(SafeClosures.OP_ADD);
-        Check.same("10 grown", x.run(), OK);
-        Check.left("10 grown", x, INT, 121, 6, 1);
+        for (String program : new String[] {State.CLOSURE, State.INT}) {
+            SafeClosures x = State.ran(program);
+            int value = x.resultValue();
+            for (int again = 0; again < 4; again++) {
+                Check.same(program, x.run(), OK);
+                Check.same(program + ": resultValue()", x.resultValue(), value);
+                Check.same(program + ": peakLive()", x.peakLive(), 2);
+            }
+            Check.same(program + ": items", State.countItems(x), 1);
+        }
     }
 
-    private static void errorsLeaveNoResult() {
-        SafeClosures x = object("(lam v0 (if v0 (app v0 1) (lam v1 v1)))");
-        x.run();
-        Check.same("11 first", x.callResult(0), OK);
-        Check.same("13 a closure", x.resultKind(), CLOSURE);
-        x.run();
-        Check.same("11 an error", x.callResult(1), SafeClosures.ERR_NOT_FUNCTION);
-        Check.left("11 an error", x, NONE, 0, 1, 0);
-        Check.same("11 no closure is left", x.callResult(0), R);
-        Check.same("10 run again", x.run(), OK);
-        Check.left("10 run again", x, CLOSURE, 7, 0, 1);
+    private static void callRefused(String what, Supplier<SafeClosures> state) {
+        for (int k : new int[] {0, 1, -1, LEAST, GREATEST}) {
+            Unchanged.by("callResult(" + k + "), " + what, state, o -> o.callResult(k), R);
+        }
+    }
+
+    private static SafeClosures called(String text, int... arguments) {
+        SafeClosures x = State.ran(text);
+        for (int k : arguments) {
+            x.callResult(k);
+        }
+        return x;
     }
 
     private static void callResultNeedsAClosure() {
-        SafeClosures x = object("(app (lam v0 v0) 5)");
-        Check.same("11 before a run", x.callResult(1), R);
-        Check.left("11 before a run", x, NONE, 0, 0, 0);
-        x.run();
-        Check.same("11 an int", x.callResult(1), R);
-        Check.left("11 an int", x, INT, 5, 1, 1);
-    }
-
-    private static void callResultAppliesTheClosure() {
-        SafeClosures x = object("(app (lam v0 (lam v1 (lam v2 (- v0 (* v1 v2))))) 100)");
-        x.run();
-        Check.left("11 curried, run", x, CLOSURE, 6, 1, 1);
-        Check.same("11 curried, first", x.callResult(4), OK);
-        Check.left("11 curried, first", x, CLOSURE, 5, 1, 1);
-        Check.same("11 curried, second", x.callResult(6), OK);
-        Check.left("11 curried, second", x, INT, 76, 1, 0);
-        Check.same("11 curried, third", x.callResult(6), R);
-        int[] arguments = {0, 1, -1, 8, Integer.MAX_VALUE, Integer.MIN_VALUE};
-        for (int k : arguments) {
-            SafeClosures same = object("(lam v3 v3)");
-            same.run();
-            Check.same("11 callResult(" + k + ")", same.callResult(k), OK);
-            Check.left("11 callResult(" + k + ")", same, INT, k, 1, 0);
+        Check.sentence("Promise 11: Refused (answers REFUSED, changes nothing) unless the held result is a closure");
+        callRefused("new", () -> State.items());
+        callRefused("nothing run", () -> State.items(State.LAMBDA));
+        callRefused("cleared", () -> State.cleared());
+        callRefused("a closure held before clear()", () -> State.cleared(State.LAMBDA));
+        callRefused("an int is held", () -> State.ran(State.INT));
+        callRefused("an int is held, two items", () -> State.ran("0", State.LAMBDA));
+        callRefused("the int 2 is held", () -> State.ran("2"));
+        for (String error : ERRORS) {
+            callRefused("after " + error, () -> State.ran(error));
         }
-        SafeClosures self = object("(letrec v0 (lam v1 (if v1 v0 5)) v0)");
-        self.run();
-        Check.same("11 itself", self.callResult(1), OK);
-        Check.left("11 itself", self, CLOSURE, 4, 1, 0);
-        Check.same("11 itself, again", self.callResult(0), OK);
-        Check.left("11 itself, again", self, INT, 5, 1, 0);
+        callRefused("after a callResult that gave an int", () -> called(State.LAMBDA, 7, 5));
+        callRefused("after a callResult that failed", () -> called("(lam v0 (app v0 v0))", 7));
+        callRefused("all nodes made", () -> State.grown(State.ran(State.INT), 32));
     }
 
-    private static void callResultErrors() {
-        SafeClosures fuel = Source.object(7, 32, 32, "(letrec v0 (lam v1 (if v1 (app v0 v1) 3)) v0)");
-        fuel.run();
-        Check.same("11 fuel", fuel.callResult(1), SafeClosures.ERR_FUEL);
-        Check.left("11 fuel", fuel, NONE, 0, 7, 0);
-        fuel.run();
-        Check.same("11 fuel is fresh", fuel.callResult(0), OK);
-        Check.left("11 fuel is fresh", fuel, INT, 3, 1, 0);
-        SafeClosures least = Source.object(1, 2, 4, "(lam v0 (lam v1 (+ v0 v1)))");
-        least.run();
-        Check.same("11 least fuel", least.callResult(2), OK);
-        Check.same("11 least fuel, again", least.callResult(3), OK);
-        Check.left("11 least fuel, again", least, INT, 5, 1, 0);
-        SafeClosures deep = Source.object(100, 32, 4, "(letrec v0 (lam v1 (+ 1 (app v0 v1))) v0)");
-        deep.run();
-        Check.same("11 depth", deep.callResult(1), SafeClosures.ERR_DEPTH);
-        Check.left("11 depth", deep, NONE, 0, 4, 0);
-        SafeClosures type = object("(lam v0 (+ v0 (lam v1 v1)))");
-        type.run();
-        Check.same("11 type", type.callResult(1), SafeClosures.ERR_TYPE);
-        Check.left("11 type", type, NONE, 0, 1, 1);
-        SafeClosures live = Source.object(100, 2, 32,
-            "(lam v0 (let v1 (lam v2 v2) (let v2 (lam v3 v1) (lam v4 v2))))");
-        live.run();
-        Check.same("11 memory", live.callResult(1), SafeClosures.ERR_MEMORY);
-        Check.left("11 memory", live, NONE, 0, 1, 3);
-        Check.same("11 memory, then", live.callResult(1), R);
+    private static void callResultStartsFromNothing() {
+        Check.sentence("Promise 11: the held result becomes NONE; callsUsed and peakLive become 0");
+        SafeClosures error = State.ran("(app (lam v0 (lam v1 (app v1 v1))) (lam v2 v2))");
+        Check.left("before", error, CLOSURE, 3, 1, 2);
+        Check.same("callResult(3)", error.callResult(3), SafeClosures.ERR_NOT_FUNCTION);
+        Check.left("an error", error, NONE, 0, 1, 0);
+        Check.same("no closure is left", error.callResult(3), R);
+        Check.left("no closure is left", error, NONE, 0, 1, 0);
+        SafeClosures chain = State.ran("(app (lam v0 (lam v1 (lam v2 (app v0 (+ v1 v2))))) (lam v3 (* v3 2)))");
+        Check.left("run", chain, CLOSURE, 6, 1, 2);
+        Check.same("callResult(3)", chain.callResult(3), OK);
+        Check.left("the first callResult", chain, CLOSURE, 5, 1, 2);
+        Check.same("callResult(4)", chain.callResult(4), OK);
+        Check.left("the second callResult", chain, INT, 14, 2, 0);
+        Check.same("callResult(4), an int is held", chain.callResult(4), R);
+        Check.left("after the refusal", chain, INT, 14, 2, 0);
+    }
+
+    private static void callResultHasFuelOfItsOwn() {
+        Check.sentence("Promise 11: the CALL STEP of c with k is done (if callsUsed == fuel: ERR_FUEL)");
+        SafeClosures least = Source.object(1, 2, 4, "(app (lam v0 v0) (lam v1 (lam v2 (app (lam v3 v3) v2))))");
+        Check.same("all fuel is spent by run()", least.run(), OK);
+        Check.left("all fuel is spent by run()", least, CLOSURE, 7, 1, 2);
+        Check.same("callResult(3)", least.callResult(3), OK);
+        Check.left("callResult(3)", least, CLOSURE, 6, 1, 1);
+        Check.same("callResult(4)", least.callResult(4), SafeClosures.ERR_FUEL);
+        Check.left("callResult(4)", least, NONE, 0, 1, 1);
+        String countdown = "(letrec v0 (lam v1 (if v1 (app v0 (- v1 1)) v0)) v0)";
+        for (int fuel : new int[] {1, 2, 50, 99, 100}) {
+            SafeClosures x = Source.object(fuel, 2, 4, countdown);
+            Check.same("run()", x.run(), OK);
+            for (int i = 0; i < 3; i++) {
+                Check.same("as many calls as fuel " + fuel, x.callResult(fuel - 1), OK);
+                Check.left("as many calls as fuel " + fuel, x, CLOSURE, 8, fuel, 0);
+            }
+            Check.same("one call more than fuel " + fuel, x.callResult(fuel), SafeClosures.ERR_FUEL);
+            Check.left("one call more than fuel " + fuel, x, NONE, 0, fuel, 0);
+        }
+    }
+
+    private static void callResultHasAnEmptyFrameStack() {
+        Check.sentence("Promise 11: the frame stack is empty");
+        SafeClosures four = Source.object(100, 2, 4, "(lam v0 (+ 1 (+ 1 (+ 1 (+ 1 v0)))))");
+        SafeClosures five = Source.object(100, 2, 4, "(lam v0 (+ 1 (+ 1 (+ 1 (+ 1 (+ 1 v0))))))");
+        for (int i = 0; i < 3; i++) {
+            four.run();
+            Check.same("as many frames as depthLimit", four.callResult(i), OK);
+            Check.left("as many frames as depthLimit", four, INT, i + 4, 1, 0);
+            five.run();
+            Check.same("one frame more than depthLimit", five.callResult(i), SafeClosures.ERR_DEPTH);
+            Check.left("one frame more than depthLimit", five, NONE, 0, 1, 0);
+        }
+        SafeClosures both = Source.object(100, 2, 4, "(lam v0 (if v0 (+ 1 (+ 1 (+ 1 (+ 1 (app v0 1))))) "
+            + "(+ 1 (+ 1 (+ 1 (+ 1 v0))))))");
+        both.run();
+        Check.same("an error with frames pending", both.callResult(1), SafeClosures.ERR_DEPTH);
+        both.run();
+        Check.same("frames pending before", both.callResult(0), OK);
+        Check.left("frames pending before", both, INT, 4, 1, 0);
+    }
+
+    private static void callResultTakesAnyInt() {
+        Check.sentence("Promise 11: callResult(k) applies the held closure to the int k");
+        for (int k : new int[] {0, 1, -1, 2, 31, 32, 33, 34, 255, 256, LEAST, LEAST + 1, GREATEST}) {
+            for (int x = 0; x < SafeClosures.NUM_VARS; x++) {
+                SafeClosures same = State.ran("(lam v" + x + " v" + x + ")");
+                Check.same("callResult(" + k + ")", same.callResult(k), OK);
+                Check.left("callResult(" + k + ")", same, INT, k, 1, 0);
+            }
+            SafeClosures sum = State.ran("(lam v7 (+ v7 1))");
+            Check.same("callResult(" + k + ")", sum.callResult(k), OK);
+            Check.left("callResult(" + k + ") and 1", sum, INT, k + 1, 1, 0);
+        }
     }
 
     private static void callResultLeavesTheProgram() {
-        SafeClosures x = object("(lam v0 (+ v0 1))");
-        x.run();
-        x.pushNum(3);
-        Check.same("11 with two items", x.callResult(6), OK);
-        Check.left("11 with two items", x, INT, 7, 1, 0);
-        Check.same("11 leaves the nodes", x.freeVars(2), 1);
-        Check.same("11 leaves the stack", x.pushApp(), 5);
-        Check.same("11 then run()", x.run(), OK);
-        Check.left("11 then run()", x, INT, 4, 1, 1);
-    }
-
-    /** The held closure is replaced at every call, and the closures before it must make room. */
-    private static void manyCalls() {
-        SafeClosures x = Source.object(2, 2, 4, "(app (letrec v0 (lam v1 (lam v2 (app v0 (+ v1 v2)))) v0) 0)");
-        Check.same("11 adder: run()", x.run(), OK);
-        Check.left("11 adder", x, CLOSURE, 5, 1, 2);
-        for (int i = 0; i < 5000; i++) {
-            Check.same("11 adder, call " + i, x.callResult(i), OK);
-            Check.left("11 adder, call " + i, x, CLOSURE, 5, 2, 2);
+        Check.sentence("Promise 11: The nodes and the build stack are unchanged");
+        String body = "(lam v0 (if v0 (app v0 1) (lam v1 v0)))";
+        for (int k = 0; k <= 1; k++) {
+            for (String[] items : new String[][] {{body}, {body, "1"}, {body, "1", "2", "3"}}) {
+                SafeClosures x = State.ran(items);
+                int nodes = State.nodeCount(x);
+                Check.same("callResult(" + k + ")", x.callResult(k), k == 0 ? OK : SafeClosures.ERR_NOT_FUNCTION);
+                Check.same("nodes", State.nodeCount(x), nodes);
+                Check.same("run()", x.run(), items.length == 1 ? OK : R);
+                Check.same("items", State.countItems(x), items.length);
+            }
         }
-        SafeClosures chain = object("(letrec v0 (lam v1 (lam v2 (if v2 (app v0 (lam v3 v1)) v1))) (app v0 7))");
-        Check.same("11 chain: run()", chain.run(), OK);
-        Check.left("11 chain", chain, CLOSURE, 7, 1, 2);
-        for (int i = 1; i <= 30; i++) {
-            Check.same("11 chain, call " + i, chain.callResult(1), OK);
-            Check.left("11 chain, call " + i, chain, CLOSURE, 7, 2, i + 2);
-        }
-        Check.same("11 chain, too long", chain.callResult(1), SafeClosures.ERR_MEMORY);
-        Check.left("11 chain, too long", chain, NONE, 0, 2, 33);
+        SafeClosures full = State.grown(State.ran("(lam v0 (+ v0 1))", "5"), 32);
+        Check.same("all nodes made: callResult(8)", full.callResult(8), OK);
+        Check.left("all nodes made", full, INT, 9, 1, 0);
+        Check.same("all nodes made: run()", full.run(), R);
+        SafeClosures taken = State.ran("(lam v0 (+ v0 1))", "5");
+        taken.pushApp();
+        Check.same("its node taken by another: callResult(8)", taken.callResult(8), OK);
+        Check.left("its node taken by another", taken, INT, 9, 1, 0);
+        Check.same("its node taken by another: run()", taken.run(), OK);
+        Check.left("its node taken by another, run", taken, INT, 6, 1, 1);
     }
 
-    private static String countdown(int n) {
-        return "(letrec v0 (lam v1 (if v1 (app v0 (- v1 1)) 42)) (app v0 " + n + "))";
-    }
-
-    private static void fuel() {
-        for (int fuel = 1; fuel <= 100; fuel++) {
-            SafeClosures most = Source.object(fuel, 2, 4, countdown(fuel - 1));
-            Check.same("14 all fuel spent", most.run(), OK);
-            Check.left("14 all fuel spent", most, INT, 42, fuel, 1);
-            SafeClosures over = Source.object(fuel, 2, 4, countdown(fuel));
-            Check.same("14 one call too many", over.run(), SafeClosures.ERR_FUEL);
-            Check.left("14 one call too many", over, NONE, 0, fuel, 1);
-            Check.same("14 and again", over.run(), SafeClosures.ERR_FUEL);
-            Check.left("14 and again", over, NONE, 0, fuel, 1);
+    private static void heldKinds() {
+        Check.sentence("Promise 13: for KIND_NONE, 0");
+        Check.left("new", State.items(), NONE, 0, 0, 0);
+        Check.left("nothing run", State.items(State.INT), NONE, 0, 0, 0);
+        Check.left("cleared", State.cleared(State.CLOSURE), NONE, 0, 0, 0);
+        for (int i = 0; i < ERRORS.length; i++) {
+            Check.left(ERRORS[i], State.ran(ERRORS[i]), NONE, 0, ERROR_CALLS[i], ERROR_PEAKS[i]);
+            SafeClosures x = State.ran(State.INT);
+            x.pushLam(0);
+            Source.push(x, ERRORS[i]);
+            x.pushLetrec(0, SafeClosures.NO_SECOND);
+            Check.same("an int held, then " + ERRORS[i], x.run(), STATUSES[i]);
+            Check.left("an int held, then " + ERRORS[i], x, NONE, 0, ERROR_CALLS[i], ERROR_PEAKS[i]);
         }
     }
 
-    /** Some 4,700 steps: 31 nodes, nearly all of them evaluated again at every one of the 100 calls. */
-    private static void longestRun() {
-        String zero = "(- v1 v1)";
-        String less = "(- (- (- (- v1 (+ 1 0)) " + zero + ") " + zero + ") (- " + zero + " " + zero + "))";
-        Check.gives("(letrec v0 (lam v1 (if v1 (app v0 " + less + ") 42)) (app v0 99))", 42, 100, 1);
+    private static void heldValues() {
+        Check.sentence("Promise 13: for KIND_INT, the int");
+        for (int k : new int[] {0, 1, -1, -2, 2, 31, 32, LEAST, LEAST + 1, GREATEST}) {
+            Check.left("NUM " + k, State.ran("" + k), INT, k, 0, 0);
+        }
+        Check.sentence("Promise 13: for KIND_CLOSURE, the index of the closure's LAM node");
+        Check.left("the least index", State.ran("(lam v0 v0)"), CLOSURE, 1, 0, 1);
+        SafeClosures greatest = State.grown(State.items("5"), 32);
+        Check.same("run()", greatest.run(), OK);
+        Check.left("the greatest index", greatest, CLOSURE, 31, 0, 1);
+        Check.left("not the root", State.ran("(if 0 (lam v0 v0) (let v0 (lam v1 1) v0))"), CLOSURE, 4, 0, 1);
+        Check.left("l1", State.ran("(letrec2 v0 (lam v2 2) v1 (lam v2 3) v0)"), CLOSURE, 1, 0, 1);
+        Check.left("l2", State.ran("(letrec2 v0 (lam v2 2) v1 (lam v2 3) v1)"), CLOSURE, 3, 0, 1);
+        Check.left("the body", State.ran("(letrec2 v0 (lam v2 2) v1 (lam v2 3) (lam v2 4))"), CLOSURE, 5, 0, 1);
     }
 
-    private static void depthIs(String text, int most) {
-        SafeClosures fits = Source.object(100, 32, most, text);
-        Check.same("10 at depth " + most + ": " + text, fits.run(), OK);
-        SafeClosures less = Source.object(100, 32, most - 1, text);
-        Check.same("10 at depth " + (most - 1) + ": " + text, less.run(), SafeClosures.ERR_DEPTH);
-        Check.same("13 after ERR_DEPTH: " + text, less.resultKind(), NONE);
-        SafeClosures more = Source.object(100, 32, 32, text);
-        Check.same("10 at depth 32: " + text, more.run(), OK);
-        Check.same("13 the same kind: " + text, fits.resultKind(), more.resultKind());
-        Check.same("13 the same value: " + text, fits.resultValue(), more.resultValue());
+    private static void callsOfTheLastRun() {
+        Check.sentence("Promise 14: the number of CALL STEPs completed by the last run or callResult that was not "
+            + "refused (0 after construction or clear)");
+        Check.same("new", State.items().callsUsed(), 0);
+        Check.same("cleared", State.cleared(State.INT).callsUsed(), 0);
+        Check.same("no call", State.ran("(if 1 2 3)").callsUsed(), 0);
+        Check.same("a call that is not completed", State.ran("(app 1 2)").callsUsed(), 0);
+        Check.same("one of two is completed", State.ran("(app (app (lam v0 v0) 1) 2)").callsUsed(), 1);
+        Check.same("two", State.ran(State.INT).callsUsed(), 2);
+        SafeClosures x = State.ran(State.INT, "1");
+        Check.same("refused: run()", x.run(), R);
+        Check.same("refused: callResult(1)", x.callResult(1), R);
+        Check.same("after refusals", x.callsUsed(), 2);
+        SafeClosures unbound = State.ran(State.INT, "v0");
+        unbound.pushApp();
+        Check.same("unbound: run()", unbound.run(), SafeClosures.ERR_UNBOUND);
+        Check.same("unbound", unbound.callsUsed(), 0);
     }
 
-    private static void depth() {
-        depthIs("(+ 1 (+ 1 (+ 1 (+ 1 (+ 1 1)))))", 5);
-        depthIs("(+ (+ (+ (+ (+ 1 1) 1) 1) 1) 1)", 5);
-        depthIs("(if (if (if (if (if 1 1 1) 1 1) 1 1) 1 1) 1 1)", 5);
-        depthIs("(let v0 (let v0 (let v0 (let v0 (let v0 1 v0) v0) v0) v0) v0)", 5);
-        depthIs("(app (lam v0 v0) (app (lam v0 v0) (app (lam v0 v0) (app (lam v0 v0) (app (lam v0 v0) 1)))))", 5);
-        depthIs("(app (app (app (app (app (lam v0 (lam v0 (lam v0 (lam v0 (lam v0 v0))))) 1) 1) 1) 1) 1)", 5);
-        depthIs("(+ 1 (+ 1 (app (lam v0 (if v0 (+ 1 (let v1 (* 2 v0) v1)) 0)) 4)))", 5);
-        String letrecs = "(letrec v0 (lam v1 v1) (letrec v0 (lam v1 v1) (letrec v0 (lam v1 v1) 1)))";
-        Check.gives(letrecs, 1, 0, 0);
-        SafeClosures shallow = Source.object(1, 2, 4, "(let v0 1 (let v0 2 (let v0 3 (let v0 4 (let v0 5 v0)))))");
-        Check.same("10 LET bodies need no frame", shallow.run(), OK);
-        SafeClosures branches = Source.object(1, 2, 4, "(if 1 (if 1 (if 1 (if 1 (if 1 6 0) 0) 0) 0) 0)");
-        Check.same("10 IF branches need no frame", branches.run(), OK);
-        SafeClosures closure = Source.object(100, 32, 4, "(lam v0 (+ 1 (+ 1 (+ 1 (+ 1 v0)))))");
-        closure.run();
-        Check.same("11 four frames", closure.callResult(1), OK);
-        SafeClosures five = Source.object(100, 32, 4, "(lam v0 (+ 1 (+ 1 (+ 1 (+ 1 (+ 1 v0))))))");
-        five.run();
-        Check.same("11 five frames", five.callResult(1), SafeClosures.ERR_DEPTH);
-        Check.left("11 five frames", five, NONE, 0, 1, 0);
+    private static void callsNeverExceedTheFuel() {
+        Check.sentence("Promise 14: It never exceeds the fuel limit");
+        String[] loops = {LOOP, "(app (lam v0 (app v0 v0)) (lam v0 (app v0 v0)))",
+            "(letrec2 v0 (lam v2 (app v1 v2)) v1 (lam v2 (app v0 v2)) (app v1 7))"};
+        for (int fuel = 1; fuel <= 101; fuel++) {
+            for (String loop : loops) {
+                SafeClosures x = Source.object(fuel, 2, 4, loop);
+                Check.same(loop + ", fuel " + fuel, x.run(), SafeClosures.ERR_FUEL);
+                Check.same(loop + ", fuel " + fuel + ": callsUsed()", x.callsUsed(), Math.min(fuel, 100));
+                x.pushLam(5);
+                Check.same("in a lambda: run()", x.run(), OK);
+                Check.same("in a lambda: callResult(1)", x.callResult(1), SafeClosures.ERR_FUEL);
+                Check.same("in a lambda: callsUsed()", x.callsUsed(), Math.min(fuel, 100));
+            }
+        }
     }
 
-    private static void tailCalls() {
-        SafeClosures loop = Source.object(100, 2, 4, countdown(99));
-        Check.same("10 a tail call leaves no frame", loop.run(), OK);
-        Check.left("10 a tail call leaves no frame", loop, INT, 42, 100, 1);
-        String step = "(lam v1 (let v2 (- v1 1) (if v1 (app v0 v2) 8)))";
-        SafeClosures let = Source.object(100, 2, 4, "(letrec v0 " + step + " (app v0 99))");
-        Check.same("10 a tail call in a LET body", let.run(), OK);
-        Check.left("10 a tail call in a LET body", let, INT, 8, 100, 1);
-    }
-
-    private static void peakIs(String text, int peak) {
-        SafeClosures x = object(text);
-        Check.same("15 " + text, x.run(), OK);
-        Check.same("15 peak of " + text, x.peakLive(), peak);
-        Check.same("15 the same run again", x.run(), OK);
-        Check.same("15 peak again of " + text, x.peakLive(), peak);
-    }
-
-    private static void liveClosures() {
-        peakIs("5", 0);
-        peakIs("(lam v0 v0)", 1);
-        // A LETREC counts what its body mentions, and what that captures.
-        peakIs("(letrec v0 (lam v1 v1) 5)", 0);
-        peakIs("(letrec2 v0 (lam v1 v1) v2 (lam v1 v1) v0)", 1);
-        peakIs("(letrec2 v0 (lam v1 v1) v2 (lam v1 v0) v2)", 2);
-        peakIs("(letrec2 v0 (lam v1 v2) v2 (lam v1 v0) v0)", 2);
-        peakIs("(letrec2 v0 (lam v1 v1) v2 (lam v1 v2) (+ (app v0 1) 1))", 1);
-        // A closure keeps only what is free in its own lambda.
-        peakIs("(let v0 (lam v1 v1) (lam v2 v2))", 1);
-        peakIs("(let v0 (lam v1 v1) (lam v2 v0))", 2);
-        peakIs("(let v0 (lam v1 v1) (lam v0 v0))", 1);
-        peakIs("(let v0 (lam v1 v1) (let v2 (lam v1 v0) (lam v1 v2)))", 3);
-        peakIs("(let v0 (lam v1 v1) (lam v2 (+ (app v0 1) (app v0 2))))", 2);
-        peakIs("(let v0 (lam v1 v1) (let v2 v0 (let v3 v0 (lam v4 (if v0 v2 v3)))))", 2);
-        // ARG keeps what the argument mentions, CALL its function.
-        peakIs("(app (lam v0 1) (lam v0 1))", 2);
-        peakIs("(let v0 (lam v1 v1) (app (lam v2 2) v0))", 2);
-        peakIs("(let v0 (lam v1 v1) (app (lam v2 2) 3))", 1);
-        peakIs("(let v0 (lam v1 v1) (app v0 (lam v2 2)))", 2);
-        peakIs("(let v0 (lam v1 v1) (+ (app v0 1) (app (lam v2 2) 3)))", 1);
-        // LEFT keeps what the right side mentions, RIGHT the left value.
-        peakIs("(let v0 (lam v1 v1) (+ (app (lam v2 2) 3) (app v0 1)))", 2);
-        // TEST keeps what either branch mentions, BIND what the body mentions beside its own variable.
-        peakIs("(let v0 (lam v1 v1) (if (app (lam v2 2) 3) v0 1))", 2);
-        peakIs("(let v0 (lam v1 v1) (if (app (lam v2 2) 3) 1 v0))", 2);
-        peakIs("(let v0 (lam v1 v1) (if (app (lam v2 2) 3) 1 2))", 1);
-        peakIs("(let v0 (lam v1 v1) (let v3 (lam v2 2) v0))", 2);
-        peakIs("(let v0 (lam v1 v1) (let v3 (lam v2 2) v3))", 1);
-        peakIs("(let v0 (lam v1 v1) (let v0 (lam v2 2) v0))", 1);
-        // A called body no longer keeps its own closure.
-        peakIs("(app (lam v0 (lam v1 v1)) 3)", 1);
-        peakIs("(app (lam v0 (app (lam v1 (lam v2 v2)) 3)) 3)", 1);
-        // Closures of the same lambda are distinct.
-        peakIs("(let v0 (lam v1 (lam v2 v2)) (let v3 (app v0 1) (let v4 (app v0 1) (lam v5 (app v3 v4)))))", 3);
-        Check.fails("(= (let v0 (lam v1 v1) v0) (lam v1 v1))", SafeClosures.ERR_TYPE, 0, 2);
-    }
-
-    private static void liveLimit() {
-        String three = "(let v0 (lam v3 3) (let v1 (lam v3 v0) (let v2 (lam v3 v1) 5)))";
-        SafeClosures fits = Source.object(100, 3, 32, three);
-        Check.same("15 as many as the limit", fits.run(), OK);
-        Check.left("15 as many as the limit", fits, INT, 5, 0, 3);
-        SafeClosures over = Source.object(100, 2, 32, three);
-        Check.same("15 one over the limit", over.run(), SafeClosures.ERR_MEMORY);
-        Check.left("15 one over the limit", over, NONE, 0, 0, 3);
-        // Two closures of one LETREC can overshoot the limit by two.
+    private static void peakCountsTheErrorToo() {
+        Check.sentence("Promise 15: including a count that caused ERR_MEMORY");
+        for (int limit = 2; limit <= 33; limit++) {
+            SafeClosures x = Source.object(100, limit, 32, WIDE);
+            Check.same("liveLimit " + limit, x.run(), SafeClosures.ERR_MEMORY);
+            Check.same("liveLimit " + limit + ": peakLive()", x.peakLive(), Math.min(limit, 32) + 1);
+            x.pushLam(5);
+            Check.same("in a lambda: run()", x.run(), OK);
+            Check.same("in a lambda: peakLive()", x.peakLive(), 1);
+            Check.same("in a lambda: callResult(1)", x.callResult(1), SafeClosures.ERR_MEMORY);
+            Check.same("in a lambda: peakLive()", x.peakLive(), Math.min(limit, 32) + 1);
+        }
         String pair = "(let v0 (lam v3 3) (let v1 (lam v3 v0) (letrec2 v4 (lam v3 v5) v5 (lam v3 v1) v4)))";
         SafeClosures two = Source.object(100, 2, 32, pair);
-        Check.same("15 two over the limit", two.run(), SafeClosures.ERR_MEMORY);
-        Check.left("15 two over the limit", two, NONE, 0, 0, 4);
-        String most = "(app (app (letrec v0 (lam v1 (lam v2 (if v1 (app (app v0 (- v1 1)) (lam v3 v2)) "
-            + "(letrec2 v4 (lam v3 v5) v5 (lam v3 v2) v4)))) v0) 30) 7)";
-        SafeClosures full = object(most);
-        Check.same("15 thirty in a chain and two", full.run(), OK);
-        Check.same("15 thirty in a chain and two: kind", full.resultKind(), CLOSURE);
-        Check.same("15 thirty in a chain and two: peak", full.peakLive(), 32);
-        String atEnd = "(let v2 (lam v3 v2) (let v2 (lam v3 v2) (letrec2 v4 (lam v3 v5) v5 (lam v3 v2) v4)))";
-        String all = "(app (app (letrec v0 (lam v1 (lam v2 (if v1 (app (app v0 (- v1 1)) (lam v3 v2)) "
-            + atEnd + "))) v0) 30) 7)";
-        SafeClosures beyond = object(all);
-        for (int i = 0; i < 3; i++) {
-            Check.same("15 the most there can be", beyond.run(), SafeClosures.ERR_MEMORY);
-            Check.left("15 the most there can be", beyond, NONE, 0, 62, 34);
-            Check.same("15 full again", full.run(), OK);
-            Check.left("15 full again", full, CLOSURE, full.resultValue(), 62, 32);
-            over.run();
-            Check.left("15 the same after errors", over, NONE, 0, 0, 3);
-        }
-        // A peak is the greatest count, not the last.
-        Check.gives("(+ (app (app (lam v0 (lam v1 1)) (lam v2 2)) (lam v3 3)) (app (lam v0 1) 1))", 2, 3, 2);
+        Check.same("two over the limit at once", two.run(), SafeClosures.ERR_MEMORY);
+        Check.left("two over the limit at once", two, NONE, 0, 0, 4);
     }
 
-    private static void answersChangeNothing() {
-        SafeClosures x = object("(app (lam v0 (lam v1 v0)) (lam v2 v2))");
+    private static void peakIsZeroWithoutACheck() {
+        Check.sentence("Promise 15: It is 0 if no LIVE CHECK happened (and 0 after construction or clear)");
+        Check.same("new", State.items().peakLive(), 0);
+        Check.same("cleared", State.cleared(State.INT).peakLive(), 0);
+        Check.same("no LAM and no LETREC", State.ran("(let v0 1 (if v0 (+ v0 2) 3))").peakLive(), 0);
+        Check.same("a LAM in the branch not taken", State.ran("(if 1 2 (lam v0 v0))").peakLive(), 0);
+        Check.same("an error before any LAM", State.ran("(app (app 1 2) (lam v0 v0))").peakLive(), 0);
+        SafeClosures called = State.ran("(lam v0 (+ v0 1))");
+        called.callResult(1);
+        Check.same("a callResult without a LAM", called.peakLive(), 0);
+        SafeClosures unbound = State.ran(State.INT, "v0");
+        unbound.pushApp();
+        unbound.run();
+        Check.same("unbound", unbound.peakLive(), 0);
+        SafeClosures refused = State.ran(State.INT, "1");
+        Check.same("refused: run()", refused.run(), R);
+        Check.same("refused: callResult(1)", refused.callResult(1), R);
+        Check.same("after refusals", refused.peakLive(), 2);
+    }
+
+    private static void peakIsTheGreatest() {
+        Check.sentence("Promise 15: the greatest live count seen at the LIVE CHECKs of the last run or callResult");
+        String two = "(app (app (lam v0 (lam v1 1)) (lam v2 2)) (lam v3 3))";
+        String one = "(app (lam v0 1) 1)";
+        Check.left("the first check is the greatest", State.ran("(+ " + two + " " + one + ")"), INT, 2, 3, 2);
+        Check.left("the last check is the greatest", State.ran("(+ " + one + " " + two + ")"), INT, 2, 3, 2);
+        SafeClosures x = State.ran("(app (lam v0 (lam v1 (if v1 (lam v2 v1) 5))) (lam v3 3))");
+        Check.same("run()", x.peakLive(), 2);
+        x.callResult(1);
+        Check.same("a callResult with a smaller peak", x.peakLive(), 1);
         x.run();
-        for (int i = 0; i < 3; i++) {
-            Check.left("13 asked again", x, CLOSURE, 1, 1, 2);
-            x.freeVars(i);
-            x.freeVars(-1);
+        Check.same("run() again", x.peakLive(), 2);
+        x.callResult(0);
+        Check.same("a callResult without a check", x.peakLive(), 0);
+    }
+
+    private static void questionsChangeNothing() {
+        Check.sentence("Promises 13 to 15: Neither changes anything; It changes nothing");
+        for (String program : new String[] {State.CLOSURE, State.INT, State.ERROR, "v7", LOOP, WIDE}) {
+            SafeClosures x = State.ran(program);
+            Unchanged.by("resultKind()", () -> State.ran(program, "1"), o -> o.resultKind(), x.resultKind());
+            Unchanged.by("resultValue()", () -> State.ran(program), o -> o.resultValue(), x.resultValue());
+            Unchanged.by("callsUsed()", () -> State.ran(program, "1"), o -> o.callsUsed(), x.callsUsed());
+            Unchanged.by("peakLive()", () -> State.ran(program), o -> o.peakLive(), x.peakLive());
         }
-        Check.same("13 the closure is still held", x.callResult(1), OK);
-        Check.left("13 the captured closure", x, CLOSURE, 4, 1, 0);
-        Check.same("13 it still runs", x.callResult(6), OK);
-        Check.left("13 it still runs", x, INT, 6, 1, 0);
     }
 }

@@ -1,7 +1,7 @@
 import java.util.function.ToIntFunction;
 
 /** Promises 1, 12 and 16 and "Nodes and free variables": the limits, the initial state, clear and freeVars. */
-public final class ObjectEdgesTest {
+public final class ObjectTest {
     private static final int R = SafeClosures.REFUSED;
     private static final int OK = SafeClosures.OK;
     private static final int NONE = SafeClosures.KIND_NONE;

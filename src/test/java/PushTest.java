@@ -1,10 +1,11 @@
+import java.util.List;
 import java.util.function.ToIntFunction;
 
 /**
  * Promises 2 to 9: every refusal condition alone, with the nearest call that it lets pass, and that a refused push
  * changes nothing and a push that is made changes the nodes and the build stack alone.
  */
-public final class PushEdgesTest {
+public final class PushTest {
     private static final int R = SafeClosures.REFUSED;
     private static final int ONE = SafeClosures.NO_SECOND;
     private static final int LEAST = Integer.MIN_VALUE;
@@ -28,6 +29,8 @@ public final class PushEdgesTest {
         letrecLambdas();
         letrecFull();
         severalConditions();
+        pushesKeepTheResult();
+        refusalsChangeNothing();
         popsInOrder();
         Check.end();
     }
@@ -114,6 +117,11 @@ public final class PushEdgesTest {
             int variable = x;
             Check.same("pushVar(" + x + ")", State.items().pushVar(x), 0);
             made("pushVar(" + x + ")", o -> o.pushVar(variable), 0, State.ERROR);
+            SafeClosures bound = State.items("5");
+            bound.pushVar(x);
+            bound.pushLet(x);
+            Check.same("VAR " + x + " bound: run()", bound.run(), SafeClosures.OK);
+            Check.same("VAR " + x + " bound: resultValue()", bound.resultValue(), 5);
         }
         Check.sentence("Promise 3: MAX_NODES nodes exist");
         refusedWhenFull("pushVar(0)", o -> o.pushVar(0), State.INT);
@@ -294,11 +302,65 @@ public final class PushEdgesTest {
         Unchanged.by(what, () -> State.grown(State.ran(State.CLOSURE), 32), push, R);
     }
 
+    /** Each push method with arguments that are in range. */
+    private static List<ToIntFunction<SafeClosures>> everyPush() {
+        return List.of(o -> o.pushNum(4), o -> o.pushVar(1), o -> o.pushLam(1), o -> o.pushApp(),
+            o -> o.pushPrim(SafeClosures.OP_SUB), o -> o.pushIf(), o -> o.pushLet(1), o -> o.pushLetrec(1, ONE),
+            o -> o.pushLetrec(1, 2));
+    }
+
+    private static void pushesKeepTheResult() {
+        Check.sentence("Promises 2 to 9: For every push method: the held result, callsUsed and peakLive are not "
+            + "changed");
+        List<ToIntFunction<SafeClosures>> pushes = everyPush();
+        for (int i = 0; i < pushes.size(); i++) {
+            SafeClosures closure = State.ran(State.CLOSURE, LAMBDA, LAMBDA, "3");
+            Check.same("push " + i + " above a closure's program", pushes.get(i).applyAsInt(closure), 18);
+            Check.left("push " + i + ", a closure is held", closure, SafeClosures.KIND_CLOSURE, 5, 1, 2);
+            Check.same("push " + i + ", then callResult(9)", closure.callResult(9), SafeClosures.OK);
+            Check.left("push " + i + ", then callResult(9)", closure, SafeClosures.KIND_INT, 8, 1, 0);
+            SafeClosures number = State.ran(State.INT, LAMBDA, LAMBDA, "3");
+            Check.same("push " + i + " above an int's program", pushes.get(i).applyAsInt(number), 20);
+            Check.left("push " + i + ", an int is held", number, SafeClosures.KIND_INT, 3, 2, 2);
+            SafeClosures error = State.ran(State.ERROR, LAMBDA, LAMBDA, "3");
+            Check.same("push " + i + " above an error's program", pushes.get(i).applyAsInt(error), 18);
+            Check.left("push " + i + ", nothing is held", error, SafeClosures.KIND_NONE, 0, 1, 2);
+        }
+    }
+
+    private static int refusedThrice(SafeClosures x) {
+        Check.same("pushVar(8)", x.pushVar(8), R);
+        Check.same("pushIf() with two items", x.pushIf(), R);
+        return x.pushLetrec(0, 0);
+    }
+
+    private static void refusalsChangeNothing() {
+        Check.sentence("Promises 2 to 9: on refusal nothing at all changes");
+        List<ToIntFunction<SafeClosures>> pushes = everyPush();
+        for (int i = 0; i < pushes.size(); i++) {
+            ToIntFunction<SafeClosures> push = pushes.get(i);
+            for (String lowest : LOWEST) {
+                Unchanged.by("push " + i, () -> State.grown(State.ran(lowest, LAMBDA, LAMBDA, "3"), 32), push, R);
+                Unchanged.by("push " + i, () -> State.grown(State.ran(lowest), 32), push, R);
+            }
+        }
+        for (String lowest : LOWEST) {
+            Unchanged.by("refusals one after another", () -> State.ran(lowest, "1"), o -> refusedThrice(o), R);
+        }
+    }
+
+    /** What the pushed node gives, alone and added to an item that lies below those it takes. */
     private static void gives(String what, int value, ToIntFunction<SafeClosures> push, String... items) {
         SafeClosures x = State.items(items);
         push.applyAsInt(x);
         Check.same(what + ": run()", x.run(), SafeClosures.OK);
         Check.same(what + ": resultValue()", x.resultValue(), value);
+        SafeClosures more = State.items(above("100", items));
+        push.applyAsInt(more);
+        Check.same(what + " above an item: run()", more.run(), R);
+        more.pushPrim(SafeClosures.OP_ADD);
+        Check.same(what + " above an item, added: run()", more.run(), SafeClosures.OK);
+        Check.same(what + " above an item, added: resultValue()", more.resultValue(), value + 100);
     }
 
     /** Makes the top item a lambda's body, calls that, and takes the answer from the item below. */
@@ -315,7 +377,12 @@ public final class PushEdgesTest {
         Check.sentence("Promise 5: pops a (the top), then f");
         gives("APP", 8, o -> o.pushApp(), "(lam v0 v0)", "8");
         Check.sentence("Promise 6: pops r (the top), then l");
-        gives("PRIM", 9, o -> o.pushPrim(SafeClosures.OP_SUB), "11", "2");
+        int[] answers = {13, 9, 22, 0, 0};
+        for (int op = SafeClosures.OP_ADD; op <= SafeClosures.OP_EQ; op++) {
+            int operator = op;
+            gives("PRIM " + op, answers[op], o -> o.pushPrim(operator), "11", "2");
+        }
+        gives("PRIM, l is less", 1, o -> o.pushPrim(SafeClosures.OP_LT), "2", "11");
         Check.sentence("Promise 7: pops e (the top), then t, then c");
         gives("IF, c is 1", 20, o -> o.pushIf(), "1", "20", "30");
         gives("IF, c is 0", 30, o -> o.pushIf(), "0", "20", "30");
@@ -323,6 +390,8 @@ public final class PushEdgesTest {
         gives("LET", 15, o -> o.pushLet(0), "5", "(+ v0 10)");
         Check.sentence("Promise 9: pops b, then l2 if present, then l1");
         gives("LETREC, one", 70, o -> o.pushLetrec(0, ONE), "(lam v1 (* v1 10))", "(app v0 7)");
+        gives("LETREC, one, b binds its name again", 6, o -> o.pushLetrec(0, ONE), "(lam v1 (* v1 10))",
+            "(app (lam v0 v0) 6)");
         gives("LETREC, two", 63, o -> o.pushLetrec(0, 1), "(lam v2 (* v2 10))", "(lam v2 (- 0 v2))",
             "(+ (app v0 7) (app v1 7))");
     }
