@@ -67,6 +67,11 @@ final class Calls {
         }
     }
 
+    /** Whether this is the answer of a run or callResult that a limit ended. */
+    static boolean isCutShort(int[] call, int answer) {
+        return (call[0] == RUN || call[0] == CALL_RESULT) && answer >= SafeClosures.ERR_FUEL;
+    }
+
     /** Calls of any method with any arguments, mostly small ones. */
     Calls anyhow(int count) {
         for (int i = 0; i < count; i++) {

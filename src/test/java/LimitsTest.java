@@ -62,8 +62,7 @@ public final class LimitsTest {
     private static void compare(Calls calls, SafeClosures low, SafeClosures high) {
         for (int[] call : calls.made) {
             int answer = Calls.give(low, call);
-            boolean runs = call[0] == Calls.RUN || call[0] == Calls.CALL_RESULT;
-            if (runs && answer >= SafeClosures.ERR_FUEL) {
+            if (Calls.isCutShort(call, answer)) {
                 cut++;
                 Check.holds("the cut run is refused under higher limits",
                     Calls.give(high, call) != SafeClosures.REFUSED);
