@@ -90,6 +90,8 @@ public final class LanguageTest {
             Check.holds("rule 2: type of " + field, element.isPrimitive());
             Check.holds("rule 5: " + field, !isStatic
                 || Modifier.isFinal(field.getModifiers()) && (type == int.class || type == long.class));
+            Check.holds("rule 4: a method could assign to " + field,
+                !type.isArray() || Modifier.isFinal(field.getModifiers()));
             fields += isStatic ? 0 : 1;
         }
         Check.holds("rule 10: fields are " + fields, fields <= 40);
